@@ -4,12 +4,14 @@ final class MeasuresTest {
         newObject();
         addMeasure();
         removeMeasure();
+        removeOfAll();
         set();
         setRanges();
         addNote();
         addRest();
         fullVoice();
         removeEvent();
+        removeOfFullVoice();
         Check.end();
     }
 
@@ -70,6 +72,19 @@ final class MeasuresTest {
         Check.noPlace("removeMeasure(0) without measures", () -> bars.removeMeasure(0));
         bars.addMeasure();
         Check.equal("tempo of a first measure", bars.measure(0, 3), 120);
+    }
+
+    private static void removeOfAll() {
+        for (int removed = 0; removed < 16; removed++) {
+            SpokenBars bars = Check.bars(16);
+            for (int measure = 0; measure < 16; measure++) {
+                bars.set(measure, 3, 100 + measure);
+            }
+            Check.equal("removeMeasure() of 16", bars.removeMeasure(removed), 15);
+            for (int measure = 0; measure < 15; measure++) {
+                Check.equal("tempo of " + measure, bars.measure(measure, 3), 100 + measure + (measure < removed ? 0 : 1));
+            }
+        }
     }
 
     private static void set() {
@@ -178,5 +193,21 @@ final class MeasuresTest {
         Check.noPlace("removeEvent(0, 0, -1)", () -> bars.removeEvent(0, 0, -1));
         Check.noPlace("removeEvent(0, 2, 0)", () -> bars.removeEvent(0, 2, 0));
         Check.noPlace("removeEvent(1, 0, 0)", () -> bars.removeEvent(1, 0, 0));
+    }
+
+    private static void removeOfFullVoice() {
+        for (int removed = 0; removed < 24; removed++) {
+            SpokenBars bars = Check.bars(16);
+            for (int event = 0; event < 24; event++) {
+                bars.addNote(15, 0, 20, 0, 0, false);
+                bars.addNote(15, 1, event, 0, 0, false);
+            }
+            Check.equal("removeEvent() of 24", bars.removeEvent(15, 1, removed), 23);
+            for (int event = 0; event < 23; event++) {
+                Check.equal("pitch of " + event, bars.event(15, 1, event, 0), event + (event < removed ? 0 : 1));
+            }
+            Check.equal("removeEvent() of the other voice", bars.removeEvent(15, 0, removed), 23);
+            Check.equal("the first pitch left", bars.event(15, 1, 0, 0), removed == 0 ? 1 : 0);
+        }
     }
 }

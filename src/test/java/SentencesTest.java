@@ -23,6 +23,10 @@ final class SentencesTest {
         bars.set(0, 0, -7);
         told(bars, 0, "bar 1 key 7 flat time 4 4 end");
         told(bars, 1, "bar 2 key plain end");
+        bars.set(1, 0, 1);
+        told(bars, 1, "bar 2 key 1 sharp end");
+        bars.set(1, 0, -1);
+        told(bars, 1, "bar 2 key 1 flat end");
         bars.set(1, 0, 3);
         told(bars, 1, "bar 2 key 3 sharp end");
         bars.set(1, 1, 12);

@@ -6,7 +6,9 @@ final class ValuesTest {
         restValues();
         signsAndKeys();
         tiesAndShifts();
+        signsAhead();
         tiesOverBars();
+        tiesThatBreak();
         heldLengths();
         lowest();
         eventAt();
@@ -126,6 +128,41 @@ final class ValuesTest {
         Check.equal("no tie is not broken", tied.event(0, 0, 0, 9), 0);
     }
 
+    /** The sign of the very first event reaches all behind it, over notes without signs and rests. */
+    private static void signsAhead() {
+        SpokenBars bars = Check.bars(1);
+        bars.addNote(0, 0, 30, 1, 4, false);
+        bars.addNote(0, 0, 30, 0, 4, false);
+        bars.addRest(0, 0, 4);
+        bars.addNote(0, 0, 30, 0, 4, false);
+        int[] due = {1, 1, SpokenBars.NONE, 1};
+        for (int event = 0; event < due.length; event++) {
+            Check.equal("shift behind the first sign, event " + event, bars.event(0, 0, event, 6), due[event]);
+        }
+    }
+
+    /** What stands between a tie and its note breaks it, whatever call has put it there. */
+    private static void tiesThatBreak() {
+        SpokenBars bars = Check.bars(2);
+        bars.addNote(0, 0, 30, 1, 4, true);
+        bars.addNote(1, 0, 30, 0, 4, false);
+        Check.equal("shift over the bar", bars.event(1, 0, 0, 6), 1);
+        bars.addRest(0, 0, 4);
+        Check.equal("shift behind a rest", bars.event(1, 0, 0, 6), 0);
+        Check.equal("a rest breaks the tie", bars.event(0, 0, 0, 9), 1);
+        Check.equal("held length to a rest", bars.event(0, 0, 0, 8), 16);
+        bars.removeEvent(0, 0, 1);
+        Check.equal("held length without the rest", bars.event(0, 0, 0, 8), 32);
+        Check.typeText(bars, "bar 1 voice 1 e flat 4 half tied back 2 end");
+        bars.readInto(0);
+        Check.equal("shift behind readInto()", bars.event(1, 0, 0, 6), -1);
+        Check.equal("held length behind readInto()", bars.event(0, 0, 0, 8), 48);
+        Check.equal("order behind readInto()", Check.order(bars), "0 0 1");
+        bars.undo();
+        Check.equal("shift behind undo()", bars.event(1, 0, 0, 6), 1);
+        Check.equal("order behind undo()", Check.order(bars), "0 1");
+    }
+
     /** A tie takes the shift over the barline; the sign itself does not reach so far. */
     private static void tiesOverBars() {
         SpokenBars bars = Check.bars(4);
@@ -216,6 +253,11 @@ final class ValuesTest {
         Check.equal("crossings in a longer measure", bars.crossings(0), 80);
         bars.set(0, 1, 1);
         Check.equal("crossings in a shorter measure", bars.crossings(0), 16);
+        bars.set(0, 1, 4);
+        for (int count = 0; count < 4; count++) {
+            bars.removeEvent(0, 1, 0);
+        }
+        Check.equal("crossings of five notes less four", bars.crossings(0), 32 + 16);
         Check.noPlace("crossings(1)", () -> bars.crossings(1));
         Check.noPlace("crossings(-1)", () -> bars.crossings(-1));
     }
@@ -235,6 +277,9 @@ final class ValuesTest {
         for (int what = 0; what < due.length; what++) {
             Check.equal("whole(" + what + ")", bars.whole(what), due[what]);
         }
+        bars.addRest(0, 1, 9);
+        Check.equal("whole(5) with a short voice in the first measure", bars.whole(5), 3);
+        bars.undo();
         bars.set(1, 1, 3);
         Check.equal("whole(7) with a shorter measure", bars.whole(7), 528);
         Check.equal("whole(5) with a shorter measure", bars.whole(5), 3);

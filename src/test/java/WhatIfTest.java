@@ -54,6 +54,13 @@ final class WhatIfTest {
         Check.equal("nearestKey(1)", bars.nearestKey(1), -6);
         bars.set(1, 0, 1);
         Check.equal("changedBy(1, 0) from 1", bars.changedBy(1, 0), 3);
+        SpokenBars tied = Check.bars(2);
+        tied.addNote(0, 0, 31, 2, 0, true);
+        tied.addNote(1, 0, 31, 0, 2, true);
+        tied.addNote(1, 0, 31, 0, 2, false);
+        tied.addNote(1, 0, 31, 0, 2, false);
+        Check.equal("changedBy(1, 1) behind ties from a flat", tied.changedBy(1, 1), 1);
+        Check.equal("changedBy(1, 0) behind ties from a flat", tied.changedBy(1, 0), 0);
     }
 
     private static void nearestKey() {
@@ -75,6 +82,10 @@ final class WhatIfTest {
         Check.equal("nearestKey() without f and b", bars.nearestKey(0), -1);
         bars.addNote(0, 1, 34, 0, 4, false);
         Check.equal("nearestKey() without f", bars.nearestKey(0), 1);
+        SpokenBars sharps = Check.bars(1);
+        sharps.set(0, 0, 6);
+        sharps.addNote(0, 0, 30, 0, 4, false);
+        Check.equal("nearestKey() from 6 with e alone", sharps.nearestKey(0), 7);
         Check.noPlace("nearestKey(1)", () -> bars.nearestKey(1));
         Check.noPlace("nearestKey(-1)", () -> bars.nearestKey(-1));
     }
@@ -102,6 +113,10 @@ final class WhatIfTest {
         bars.addNote(1, 1, 29, 0, 4, false);
         bars.addRest(1, 1, 4);
         Check.equal("naturals in two voices", bars.needlessSigns(1), 3);
+        SpokenBars first = Check.bars(1);
+        first.addNote(0, 0, 30, 2, 4, true);
+        first.addNote(0, 0, 30, 2, 4, false);
+        Check.equal("a flat tied to the first flat", first.needlessSigns(0), 1);
         Check.noPlace("needlessSigns(2)", () -> bars.needlessSigns(2));
         Check.noPlace("needlessSigns(-1)", () -> bars.needlessSigns(-1));
     }

@@ -16,17 +16,17 @@ final class MeasuresTest {
     }
 
     private static void newObject() {
-        SpokenBars bars = new SpokenBars();
+        Music bars = new Music();
         for (int what = 0; what <= 8; what++) {
             Check.equal("whole(" + what + ") of a new object", bars.whole(what), 0);
         }
         Check.badState("undo() of a new object", bars::undo);
         Check.equal("fault() of a new object", bars.fault(), 0);
-        Check.equal("NONE", SpokenBars.NONE, -1000);
+        Check.equal("NONE", Music.NONE, -1000);
     }
 
     private static void addMeasure() {
-        SpokenBars bars = new SpokenBars();
+        Music bars = new Music();
         Check.equal("the first addMeasure()", bars.addMeasure(), 0);
         int[] first = {0, 4, 4, 120, 0, 0, 0, 64, 0, 0, 0, 0};
         for (int what = 0; what < first.length; what++) {
@@ -51,7 +51,7 @@ final class MeasuresTest {
     }
 
     private static void removeMeasure() {
-        SpokenBars bars = Check.bars(4);
+        Music bars = Made.bars(4);
         for (int measure = 0; measure < 4; measure++) {
             bars.set(measure, 3, 100 + measure);
             bars.addRest(measure, 1, measure);
@@ -76,7 +76,7 @@ final class MeasuresTest {
 
     private static void removeOfAll() {
         for (int removed = 0; removed < 16; removed++) {
-            SpokenBars bars = Check.bars(16);
+            Music bars = Made.bars(16);
             for (int measure = 0; measure < 16; measure++) {
                 bars.set(measure, 3, 100 + measure);
             }
@@ -88,7 +88,7 @@ final class MeasuresTest {
     }
 
     private static void set() {
-        SpokenBars bars = Check.bars(2);
+        Music bars = Made.bars(2);
         int[] previous = {0, 4, 4, 120, 0, 0, 0};
         int[] values = {7, 12, 16, 300, 1, 4, 4};
         for (int what = 0; what < values.length; what++) {
@@ -107,10 +107,10 @@ final class MeasuresTest {
     }
 
     private static void setRanges() {
-        SpokenBars bars = Check.bars(1);
         int[][] allowed = {{-7, 7}, {1, 12}, {2, 2, 4, 4, 8, 8, 16, 16}, {20, 300}, {0, 1}, {0, 0, 2, 4}, {0, 4}};
         for (int what = 0; what < allowed.length; what++) {
             for (int value = -20; value <= 310; value++) {
+                Music bars = Made.bars(1);
                 boolean fits = false;
                 for (int pair = 0; pair < allowed[what].length; pair += 2) {
                     fits |= value >= allowed[what][pair] && value <= allowed[what][pair + 1];
@@ -128,7 +128,7 @@ final class MeasuresTest {
     }
 
     private static void addNote() {
-        SpokenBars bars = Check.bars(1);
+        Music bars = Made.bars(1);
         Check.equal("first addNote()", bars.addNote(0, 1, 62, 3, 9, true), 1);
         Check.equal("second addNote()", bars.addNote(0, 1, 0, 0, 0, false), 2);
         int[][] due = {{62, 3, 9, 1}, {0, 0, 0, 0}};
@@ -152,7 +152,7 @@ final class MeasuresTest {
     }
 
     private static void addRest() {
-        SpokenBars bars = Check.bars(1);
+        Music bars = Made.bars(1);
         for (int duration = 0; duration <= 9; duration++) {
             Check.equal("addRest()", bars.addRest(0, 0, duration), duration + 1);
             Check.equal("duration", bars.event(0, 0, duration, 2), duration);
@@ -164,7 +164,7 @@ final class MeasuresTest {
     }
 
     private static void fullVoice() {
-        SpokenBars bars = Check.bars(1);
+        Music bars = Made.bars(1);
         for (int count = 1; count <= 24; count++) {
             Check.equal("addRest()", bars.addRest(0, 0, 4), count);
         }
@@ -178,7 +178,7 @@ final class MeasuresTest {
     }
 
     private static void removeEvent() {
-        SpokenBars bars = Check.bars(1);
+        Music bars = Made.bars(1);
         for (int duration = 0; duration < 5; duration++) {
             bars.addRest(0, 0, duration);
         }
@@ -197,7 +197,7 @@ final class MeasuresTest {
 
     private static void removeOfFullVoice() {
         for (int removed = 0; removed < 24; removed++) {
-            SpokenBars bars = Check.bars(16);
+            Music bars = Made.bars(16);
             for (int event = 0; event < 24; event++) {
                 bars.addNote(15, 0, 20, 0, 0, false);
                 bars.addNote(15, 1, event, 0, 0, false);

@@ -9,7 +9,7 @@ final class ModelTest {
         "end", "0", "1", "2", "3", "4", "04", "7", "8", "9", "016", "12", "13", "0001", "x", "", "en", "h"};
     private static final int[] EXTREMES = {Integer.MIN_VALUE, Integer.MAX_VALUE, -1, -1000, 16, 24, 63, 64, 200, 600, 601};
 
-    private final SpokenBars bars = new SpokenBars();
+    private final Music bars = new Music();
     private final Model model = new Model();
     private final int run;
     private long seed;

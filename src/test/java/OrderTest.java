@@ -9,24 +9,6 @@ final class OrderTest {
         Check.end();
     }
 
-    /** A letter each: o opens, 2 to 4 closes with so many times, a to d is of the ending 1 to 4; measures in between spaces. */
-    private static SpokenBars music(String plan) {
-        String[] measures = plan.split(" ");
-        SpokenBars bars = Check.bars(measures.length);
-        for (int measure = 0; measure < measures.length; measure++) {
-            for (char letter : measures[measure].toCharArray()) {
-                if (letter == 'o') {
-                    bars.set(measure, 4, 1);
-                } else if (letter >= '2' && letter <= '4') {
-                    bars.set(measure, 5, letter - '0');
-                } else if (letter >= 'a' && letter <= 'd') {
-                    bars.set(measure, 6, letter - 'a' + 1);
-                }
-            }
-        }
-        return bars;
-    }
-
     private static void orders() {
         due("- - -", "0 1 2");
         due("- 2 -", "0 1 0 1 2");
@@ -65,23 +47,23 @@ final class OrderTest {
     }
 
     private static void due(String plan, String order) {
-        Check.equal("order of \"" + plan + "\"", Check.order(music(plan)), order);
+        Check.equal("order of \"" + plan + "\"", Check.order(Made.repeats(plan)), order);
     }
 
     private static void places() {
-        SpokenBars bars = music("o- a2 b");
+        Music bars = Made.repeats("o- a2 b");
         Check.equal("order(3)", bars.order(3), 2);
-        Check.equal("order(4)", bars.order(4), SpokenBars.NONE);
-        Check.equal("order() far behind", bars.order(Integer.MAX_VALUE), SpokenBars.NONE);
-        Check.equal("order(0) without measures", new SpokenBars().order(0), SpokenBars.NONE);
+        Check.equal("order(4)", bars.order(4), Music.NONE);
+        Check.equal("order() far behind", bars.order(Integer.MAX_VALUE), Music.NONE);
+        Check.equal("order(0) without measures", new Music().order(0), Music.NONE);
         Check.badValue("order(-1)", () -> bars.order(-1));
         Check.badValue("order() far ahead", () -> bars.order(Integer.MIN_VALUE));
-        SpokenBars most = music("4 4 4 4 4 4 4 4 4 4 4 4 4 4 4 4");
+        Music most = Made.repeats("4 4 4 4 4 4 4 4 4 4 4 4 4 4 4 4");
         Check.equal("places of the longest plain order", most.whole(6), 64);
     }
 
     private static void timesPlayed() {
-        SpokenBars bars = music("o- a2 b - d");
+        Music bars = Made.repeats("o- a2 b - d");
         int[] due = {2, 1, 1, 1, 0};
         for (int measure = 0; measure < due.length; measure++) {
             Check.equal("timesPlayed(" + measure + ")", bars.timesPlayed(measure), due[measure]);
@@ -91,7 +73,7 @@ final class OrderTest {
     }
 
     private static void seconds() {
-        SpokenBars bars = music("- 2 -");
+        Music bars = Made.repeats("- 2 -");
         bars.set(0, 3, 97);
         bars.set(1, 1, 3);
         bars.set(1, 2, 16);
@@ -108,27 +90,27 @@ final class OrderTest {
         }
         Check.equal("seconds(5)", bars.seconds(5), due);
         Check.equal("seconds() behind the end", bars.seconds(Integer.MAX_VALUE), due);
-        Check.equal("seconds(7) without measures", new SpokenBars().seconds(7), 0.0f);
+        Check.equal("seconds(7) without measures", new Music().seconds(7), 0.0f);
         Check.badValue("seconds(-1)", () -> bars.seconds(-1));
     }
 
     private static void placeAt() {
-        SpokenBars bars = Check.bars(3);
+        Music bars = Made.bars(3);
         bars.set(1, 1, 1);
         // places last 2, 0.5 and 2 seconds
         int[] due = {0, 0, 1, 2, 2};
         for (int seconds = 0; seconds < due.length; seconds++) {
             Check.equal("placeAt(" + seconds + ")", bars.placeAt(seconds), due[seconds]);
         }
-        Check.equal("placeAt(5)", bars.placeAt(5), SpokenBars.NONE);
+        Check.equal("placeAt(5)", bars.placeAt(5), Music.NONE);
         bars.removeMeasure(1);
         Check.equal("placeAt(3) of 4 seconds", bars.placeAt(3), 1);
-        Check.equal("placeAt() at the very end", bars.placeAt(4), SpokenBars.NONE);
-        Check.equal("placeAt() far behind", bars.placeAt(Integer.MAX_VALUE), SpokenBars.NONE);
-        Check.equal("placeAt(0) without measures", new SpokenBars().placeAt(0), SpokenBars.NONE);
+        Check.equal("placeAt() at the very end", bars.placeAt(4), Music.NONE);
+        Check.equal("placeAt() far behind", bars.placeAt(Integer.MAX_VALUE), Music.NONE);
+        Check.equal("placeAt(0) without measures", new Music().placeAt(0), Music.NONE);
         bars.set(0, 6, 2);
         bars.set(1, 6, 2);
-        Check.equal("placeAt(0) of an empty order", bars.placeAt(0), SpokenBars.NONE);
+        Check.equal("placeAt(0) of an empty order", bars.placeAt(0), Music.NONE);
         Check.badValue("placeAt(-1)", () -> bars.placeAt(-1));
     }
 }

@@ -1,6 +1,6 @@
 /** Promises 21 to 26: typing the text, its fault, and reading it into measures. */
 final class ReadingTest {
-    private static final int NONE = SpokenBars.NONE;
+    private static final int NONE = Music.NONE;
 
     public static void main(String[] args) {
         type();
@@ -20,25 +20,26 @@ final class ReadingTest {
     }
 
     private static void type() {
-        SpokenBars bars = Check.bars(1);
+        Music bars = Made.bars(1);
         Check.equal("type(0)", bars.type(0), 1);
         Check.equal("type(127)", bars.type(127), 2);
         Check.badValue("type(128)", () -> bars.type(128));
         Check.badValue("type(-1)", () -> bars.type(-1));
-        for (int length = 3; length <= 600; length++) {
-            Check.equal("type(32)", bars.type(32), length);
-        }
-        Check.badState("type(32) behind 600", () -> bars.type(32));
-        Check.badValue("type(128) behind 600", () -> bars.type(128));
-        Check.equal("length behind it", bars.whole(8), 600);
         Check.badState("typing is not undoable", () -> {
             bars.undo();
             bars.undo();
         });
+        Music full = Made.longText(598);
+        for (int length = 599; length <= 600; length++) {
+            Check.equal("type(32)", full.type(32), length);
+        }
+        Check.badState("type(32) behind 600", () -> full.type(32));
+        Check.badValue("type(128) behind 600", () -> full.type(128));
+        Check.equal("length behind it", full.whole(8), 600);
     }
 
     private static void cut() {
-        SpokenBars bars = new SpokenBars();
+        Music bars = new Music();
         Check.typeText(bars, "bar 1 end end");
         Check.equal("cut(4)", bars.cut(4), 9);
         Check.equal("fault() behind cut(4)", bars.fault(), NONE);
@@ -50,14 +51,11 @@ final class ReadingTest {
         Check.equal("length behind them", bars.whole(8), 9);
         Check.equal("cut(9)", bars.cut(9), 0);
         Check.badState("cut(1) of nothing", () -> bars.cut(1));
-        for (int count = 0; count < 600; count++) {
-            bars.type(40);
-        }
-        Check.equal("cut(600) of 600", bars.cut(600), 0);
+        Check.equal("cut(600) of 600", Made.longText(600).cut(600), 0);
     }
 
     private static void clearText() {
-        SpokenBars bars = new SpokenBars();
+        Music bars = new Music();
         Check.equal("clearText() of nothing", bars.clearText(), 0);
         Check.typeText(bars, "bar 1");
         Check.equal("clearText()", bars.clearText(), 5);
@@ -66,7 +64,7 @@ final class ReadingTest {
     }
 
     private static void fault(String text, int due) {
-        SpokenBars bars = new SpokenBars();
+        Music bars = new Music();
         Check.typeText(bars, text);
         Check.equal("fault of \"" + text + "\"", bars.fault(), due);
     }
@@ -158,14 +156,14 @@ final class ReadingTest {
         fault(both + " |c 4 half end");
         fault(text + both.substring(5) + " end", NONE);
         fault(text + both.substring(5) + " |c 4 half end");
-        SpokenBars bars = Check.bars(1);
+        Music bars = Made.bars(1);
         Check.typeText(bars, text + both.substring(5) + " end");
         Check.equal("readInto() of 48 events", bars.readInto(0), 48);
         Check.equal("events of voice 1", bars.measure(0, 9), 24);
     }
 
     private static void readInto() {
-        SpokenBars bars = Check.bars(2);
+        Music bars = Made.bars(2);
         String text = " bar 77 open ending 3 key 05 flat time 7 8  voice 1 c 4 quarter f sharp 08 dotted sixteenth tied"
                 + " rest dotted whole voice 2 b natural 0 half back 3 end ";
         Check.typeText(bars, text);
@@ -198,7 +196,7 @@ final class ReadingTest {
 
     /** What the text does not tell: key, time and tempo stay, all else goes. */
     private static void readIntoKeeps() {
-        SpokenBars bars = Check.bars(1);
+        Music bars = Made.bars(1);
         int[] values = {4, 5, 16, 33, 1, 4, 2};
         for (int what = 0; what < values.length; what++) {
             bars.set(0, what, values[what]);
@@ -224,7 +222,7 @@ final class ReadingTest {
     }
 
     private static void readFaulty() {
-        SpokenBars bars = Check.bars(2);
+        Music bars = Made.bars(2);
         bars.addRest(0, 0, 1);
         Check.typeText(bars, "bar 1 open key 3 sharp voice 1 c 4 half en");
         long digest = bars.digest();
@@ -238,42 +236,44 @@ final class ReadingTest {
     }
 
     private static void tells() {
-        SpokenBars bars = Check.bars(1);
+        String head = "bar 9 ";
+        String voices = "voice 1 e flat 4 dotted quarter tied voice 2 rest quarter ";
+        tells(false, head + voices + "end", true);
+        tells(false, head + "key 2 flat time 4 4 " + voices + "end", true);
+        tells(false, head + "key 2 sharp " + voices + "end", false);
+        tells(false, head + "key plain " + voices + "end", false);
+        tells(false, head + "time 4 8 " + voices + "end", false);
+        tells(false, head + "time 3 4 " + voices + "end", false);
+        tells(false, head + "open " + voices + "end", false);
+        tells(false, head + "ending 1 " + voices + "end", false);
+        tells(false, head + voices + "back 2 end", false);
+        tells(false, head + "end", false);
+        tells(false, head + voices.replace(" flat", "") + "end", false);
+        tells(false, head + voices.replace(" tied", "") + "end", false);
+        tells(false, head + voices.replace(" dotted", "") + "end", false);
+        tells(false, head + voices.replace("e flat", "f flat") + "end", false);
+        tells(false, head + voices.replace(" 4", " 5") + "end", false);
+        tells(false, head + voices.replace("rest quarter", "rest half") + "end", false);
+        tells(false, head + voices.replace("rest quarter", "c 0 quarter") + "end", false);
+        tells(false, head + voices + "rest quarter end", false);
+        tells(false, head + "voice 1 e flat 4 dotted quarter tied end", false);
+        tells(true, head + "open ending 3 " + voices + "back 2 end", true);
+        tells(true, head + "ending 3 " + voices + "back 2 end", false);
+        tells(true, head + "open " + voices + "back 2 end", false);
+        tells(true, head + "open ending 3 " + voices + "end", false);
+        tells(true, head + "open ending 3 " + voices + "back 3 end", false);
+    }
+
+    private static void tells(boolean repeats, String text, boolean due) {
+        Music bars = Made.bars(1);
         bars.set(0, 0, -2);
         bars.addNote(0, 0, 30, 2, 5, true);
         bars.addRest(0, 1, 4);
-        String head = "bar 9 ";
-        String voices = "voice 1 e flat 4 dotted quarter tied voice 2 rest quarter ";
-        tells(bars, head + voices + "end", true);
-        tells(bars, head + "key 2 flat time 4 4 " + voices + "end", true);
-        tells(bars, head + "key 2 sharp " + voices + "end", false);
-        tells(bars, head + "key plain " + voices + "end", false);
-        tells(bars, head + "time 4 8 " + voices + "end", false);
-        tells(bars, head + "time 3 4 " + voices + "end", false);
-        tells(bars, head + "open " + voices + "end", false);
-        tells(bars, head + "ending 1 " + voices + "end", false);
-        tells(bars, head + voices + "back 2 end", false);
-        tells(bars, head + "end", false);
-        tells(bars, head + voices.replace(" flat", "") + "end", false);
-        tells(bars, head + voices.replace(" tied", "") + "end", false);
-        tells(bars, head + voices.replace(" dotted", "") + "end", false);
-        tells(bars, head + voices.replace("e flat", "f flat") + "end", false);
-        tells(bars, head + voices.replace(" 4", " 5") + "end", false);
-        tells(bars, head + voices.replace("rest quarter", "rest half") + "end", false);
-        tells(bars, head + voices.replace("rest quarter", "c 0 quarter") + "end", false);
-        tells(bars, head + voices + "rest quarter end", false);
-        tells(bars, head + "voice 1 e flat 4 dotted quarter tied end", false);
-        bars.set(0, 4, 1);
-        bars.set(0, 5, 2);
-        bars.set(0, 6, 3);
-        tells(bars, head + "open ending 3 " + voices + "back 2 end", true);
-        tells(bars, head + "ending 3 " + voices + "back 2 end", false);
-        tells(bars, head + "open " + voices + "back 2 end", false);
-        tells(bars, head + "open ending 3 " + voices + "end", false);
-        tells(bars, head + "open ending 3 " + voices + "back 3 end", false);
-    }
-
-    private static void tells(SpokenBars bars, String text, boolean due) {
+        if (repeats) {
+            bars.set(0, 4, 1);
+            bars.set(0, 5, 2);
+            bars.set(0, 6, 3);
+        }
         Check.typeText(bars, text);
         long digest = bars.digest();
         Check.equal("tells() of \"" + text + "\"", bars.tells(0) ? 1 : 0, due ? 1 : 0);

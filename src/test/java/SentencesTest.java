@@ -10,15 +10,15 @@ final class SentencesTest {
         Check.end();
     }
 
-    private static void told(SpokenBars bars, int measure, String due) {
+    private static void told(Music bars, int measure, String due) {
         Check.equal("sentence", Check.sentence(bars, measure), due);
         Check.equal("length of " + due, bars.sentenceLength(measure), due.length());
         Check.equal("words of " + due, bars.words(measure), due.split(" ").length);
     }
 
     private static void heads() {
-        SpokenBars bars = Check.bars(3);
-        told(bars, 0, "bar 1 key plain time 4 4 end");
+        Music bars = Made.bars(3);
+        told(Made.bars(3), 0, "bar 1 key plain time 4 4 end");
         told(bars, 1, "bar 2 end");
         bars.set(0, 0, -7);
         told(bars, 0, "bar 1 key 7 flat time 4 4 end");
@@ -44,14 +44,14 @@ final class SentencesTest {
         bars.removeMeasure(0);
         bars.removeMeasure(0);
         told(bars, 0, "bar 1 open ending 2 key plain time 4 4 back 4 end");
-        SpokenBars many = Check.bars(16);
+        Music many = Made.bars(16);
         told(many, 8, "bar 9 end");
         told(many, 9, "bar 10 end");
         told(many, 15, "bar 16 end");
     }
 
     private static void events() {
-        SpokenBars bars = Check.bars(2);
+        Music bars = Made.bars(2);
         bars.addNote(1, 1, 33, 3, 5, true);
         told(bars, 1, "bar 2 voice 2 a natural 4 dotted quarter tied end");
         bars.addRest(1, 1, 8);
@@ -68,24 +68,23 @@ final class SentencesTest {
     private static void allNotes() {
         String[] lengths = {"whole", "half", "quarter", "eighth", "sixteenth"};
         String[] signs = {"", "sharp ", "flat ", "natural "};
-        SpokenBars bars = Check.bars(2);
         for (int pitch = 0; pitch <= 62; pitch++) {
+            Music bars = Made.bars(2);
             int sign = pitch % 4;
             int duration = pitch % 10;
             bars.addNote(1, 0, pitch, sign, duration, false);
             told(bars, 1, "bar 2 voice 1 " + "cdefgab".charAt(pitch % 7) + " " + signs[sign] + pitch / 7
                     + (duration % 2 == 1 ? " dotted " : " ") + lengths[duration / 2] + " end");
-            bars.removeEvent(1, 0, 0);
         }
     }
 
     private static void bytes() {
-        SpokenBars bars = Check.bars(2);
+        Music bars = Made.bars(2);
         Check.equal("sentenceByte(1, 0)", bars.sentenceByte(1, 0), 'b');
         Check.equal("sentenceByte(1, 3)", bars.sentenceByte(1, 3), ' ');
         Check.equal("sentenceByte(1, 8)", bars.sentenceByte(1, 8), 'd');
-        Check.equal("sentenceByte(1, 9)", bars.sentenceByte(1, 9), SpokenBars.NONE);
-        Check.equal("sentenceByte() far behind", bars.sentenceByte(1, Integer.MAX_VALUE), SpokenBars.NONE);
+        Check.equal("sentenceByte(1, 9)", bars.sentenceByte(1, 9), Music.NONE);
+        Check.equal("sentenceByte() far behind", bars.sentenceByte(1, Integer.MAX_VALUE), Music.NONE);
         Check.noPlace("sentenceByte(2, -1)", () -> bars.sentenceByte(2, -1));
         Check.noPlace("sentenceByte(-1, 0)", () -> bars.sentenceByte(-1, 0));
         Check.badValue("sentenceByte(0, -1)", () -> bars.sentenceByte(0, -1));
@@ -96,29 +95,22 @@ final class SentencesTest {
     }
 
     private static void longest() {
-        SpokenBars bars = Check.bars(16);
-        int[] values = {7, 12, 16, 20, 1, 4, 4};
-        for (int what = 0; what < values.length; what++) {
-            bars.set(15, what, values[what]);
-        }
         StringBuilder due = new StringBuilder("bar 16 open ending 4 key 7 sharp time 12 16");
-        for (int voice = 0; voice < 2; voice++) {
-            due.append(" voice ").append(voice + 1);
-            for (int count = 0; count < 24; count++) {
-                bars.addNote(15, voice, 60, 3, 9, true);
-                due.append(" g natural 8 dotted sixteenth tied");
-            }
+        for (int voice = 1; voice <= 2; voice++) {
+            due.append(" voice ").append(voice).append(" g natural 8 dotted sixteenth tied".repeat(24));
         }
-        told(bars, 15, due + " back 4 end");
-        Check.equal("length of the longest sentence", bars.sentenceLength(15), 1702);
+        due.append(" back 4 end");
+        Check.equal("the longest sentence", Check.sentence(Made::longest, 15), due.toString());
+        Check.equal("length of the longest sentence", Made.longest().sentenceLength(15), 1702);
+        Check.equal("words of the longest sentence", Made.longest().words(15), due.toString().split(" ").length);
     }
 
     private static void copySentence() {
-        SpokenBars bars = Check.bars(2);
+        Music bars = Made.bars(2);
         Check.typeText(bars, "something longer than the sentence");
         Check.equal("copySentence(1)", bars.copySentence(1), 9);
         Check.equal("length of the text", bars.whole(8), 9);
-        Check.equal("fault of the copy", bars.fault(), SpokenBars.NONE);
+        Check.equal("fault of the copy", bars.fault(), Music.NONE);
         Check.isTrue("the copy tells its measure", bars.tells(1));
         bars.cut(1);
         Check.equal("fault of the cut copy", bars.fault(), 6);
@@ -134,7 +126,7 @@ final class SentencesTest {
         told600(bars);
     }
 
-    private static void told600(SpokenBars bars) {
+    private static void told600(Music bars) {
         Check.equal("sentence ahead of 600", bars.sentenceLength(1), 5 + 8 + 24 * 15 + 8 + 12 * 15 + 4);
         bars.addNote(1, 1, 0, 0, 2, true);
         Check.equal("sentence behind a note", bars.sentenceLength(1), 565 + 14);

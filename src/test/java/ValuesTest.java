@@ -18,7 +18,7 @@ final class ValuesTest {
     }
 
     private static void measureTicks() {
-        SpokenBars bars = Check.bars(1);
+        Music bars = Made.bars(1);
         int[] lowers = {2, 4, 8, 16};
         for (int upper = 1; upper <= 12; upper++) {
             for (int lower : lowers) {
@@ -34,7 +34,7 @@ final class ValuesTest {
     }
 
     private static void eventTicks() {
-        SpokenBars bars = Check.bars(1);
+        Music bars = Made.bars(1);
         int[] ticks = {64, 96, 32, 48, 16, 24, 8, 12, 4, 6};
         int begin = 0;
         for (int duration = 0; duration <= 9; duration++) {
@@ -54,10 +54,10 @@ final class ValuesTest {
     }
 
     private static void restValues() {
-        SpokenBars bars = Check.bars(1);
+        Music bars = Made.bars(1);
         bars.addNote(0, 0, 30, 1, 4, true);
         bars.addRest(0, 0, 3);
-        int none = SpokenBars.NONE;
+        int none = Music.NONE;
         int[] due = {none, none, 3, none, 48, 16, none, none, none, none};
         for (int what = 0; what < due.length; what++) {
             Check.equal("value " + what + " of a rest", bars.event(0, 0, 1, what), due[what]);
@@ -73,7 +73,7 @@ final class ValuesTest {
     }
 
     private static void signsAndKeys() {
-        SpokenBars bars = Check.bars(1);
+        Music bars = Made.bars(1);
         for (int step = 0; step < 7; step++) {
             bars.addNote(0, 0, 28 + step, 0, 4, false);
         }
@@ -95,7 +95,7 @@ final class ValuesTest {
 
     /** Signs ahead hold for their pitch alone, in their voice and measure alone, the latest of them. */
     private static void tiesAndShifts() {
-        SpokenBars bars = Check.bars(2);
+        Music bars = Made.bars(2);
         bars.addNote(0, 0, 28, 1, 4, false);
         bars.addNote(0, 0, 35, 0, 4, false);
         bars.addNote(0, 0, 28, 0, 4, false);
@@ -113,7 +113,7 @@ final class ValuesTest {
         Check.equal("shift in the other voice", bars.event(0, 1, 0, 6), 1);
         Check.equal("shift in the next measure", bars.event(1, 0, 0, 6), 0);
 
-        SpokenBars tied = Check.bars(1);
+        Music tied = Made.bars(1);
         tied.addNote(0, 0, 31, 1, 4, false);
         tied.addNote(0, 0, 31, 2, 4, true);
         tied.addNote(0, 0, 31, 3, 4, false);
@@ -130,12 +130,12 @@ final class ValuesTest {
 
     /** The sign of the very first event reaches all behind it, over notes without signs and rests. */
     private static void signsAhead() {
-        SpokenBars bars = Check.bars(1);
+        Music bars = Made.bars(1);
         bars.addNote(0, 0, 30, 1, 4, false);
         bars.addNote(0, 0, 30, 0, 4, false);
         bars.addRest(0, 0, 4);
         bars.addNote(0, 0, 30, 0, 4, false);
-        int[] due = {1, 1, SpokenBars.NONE, 1};
+        int[] due = {1, 1, Music.NONE, 1};
         for (int event = 0; event < due.length; event++) {
             Check.equal("shift behind the first sign, event " + event, bars.event(0, 0, event, 6), due[event]);
         }
@@ -143,7 +143,7 @@ final class ValuesTest {
 
     /** What stands between a tie and its note breaks it, whatever call has put it there. */
     private static void tiesThatBreak() {
-        SpokenBars bars = Check.bars(2);
+        Music bars = Made.bars(2);
         bars.addNote(0, 0, 30, 1, 4, true);
         bars.addNote(1, 0, 30, 0, 4, false);
         Check.equal("shift over the bar", bars.event(1, 0, 0, 6), 1);
@@ -165,7 +165,7 @@ final class ValuesTest {
 
     /** A tie takes the shift over the barline; the sign itself does not reach so far. */
     private static void tiesOverBars() {
-        SpokenBars bars = Check.bars(4);
+        Music bars = Made.bars(4);
         bars.addNote(0, 0, 29, 1, 0, true);
         bars.addNote(1, 0, 29, 0, 0, true);
         bars.addNote(2, 0, 29, 0, 2, false);
@@ -187,7 +187,7 @@ final class ValuesTest {
     }
 
     private static void heldLengths() {
-        SpokenBars bars = Check.bars(2);
+        Music bars = Made.bars(2);
         bars.addNote(0, 0, 20, 0, 4, true);
         bars.addNote(0, 0, 20, 2, 5, true);
         bars.addNote(0, 0, 20, 0, 8, false);
@@ -199,7 +199,7 @@ final class ValuesTest {
             Check.equal("held length of " + event, bars.event(0, 0, event, 8), due[event]);
             Check.equal("broken tie of " + event, bars.event(0, 0, event, 9), broken[event]);
         }
-        SpokenBars longest = Check.bars(16);
+        Music longest = Made.bars(16);
         for (int measure = 0; measure < 16; measure++) {
             for (int event = 0; event < 24; event++) {
                 longest.addNote(measure, 0, 7, measure + event == 0 ? 2 : 0, 1, true);
@@ -210,7 +210,7 @@ final class ValuesTest {
     }
 
     private static void lowest() {
-        SpokenBars bars = Check.bars(1);
+        Music bars = Made.bars(1);
         bars.addNote(0, 0, 0, 2, 4, false);
         bars.addNote(0, 0, 62, 1, 4, false);
         Check.equal("the lowest sound", bars.event(0, 0, 0, 7), -1);
@@ -218,7 +218,7 @@ final class ValuesTest {
     }
 
     private static void eventAt() {
-        SpokenBars bars = Check.bars(1);
+        Music bars = Made.bars(1);
         bars.addRest(0, 0, 9);
         bars.addNote(0, 0, 3, 0, 4, false);
         bars.addRest(0, 0, 8);
@@ -226,16 +226,16 @@ final class ValuesTest {
         for (int[] pair : due) {
             Check.equal("eventAt(0, 0, " + pair[0] + ")", bars.eventAt(0, 0, pair[0]), pair[1]);
         }
-        Check.equal("eventAt() at the end", bars.eventAt(0, 0, 26), SpokenBars.NONE);
-        Check.equal("eventAt() far behind", bars.eventAt(0, 0, Integer.MAX_VALUE), SpokenBars.NONE);
-        Check.equal("eventAt() of no events", bars.eventAt(0, 1, 0), SpokenBars.NONE);
+        Check.equal("eventAt() at the end", bars.eventAt(0, 0, 26), Music.NONE);
+        Check.equal("eventAt() far behind", bars.eventAt(0, 0, Integer.MAX_VALUE), Music.NONE);
+        Check.equal("eventAt() of no events", bars.eventAt(0, 1, 0), Music.NONE);
         Check.noPlace("eventAt() of voice 2", () -> bars.eventAt(0, 2, -1));
         Check.noPlace("eventAt() of measure 1", () -> bars.eventAt(1, 0, 0));
         Check.badValue("eventAt() at -1", () -> bars.eventAt(0, 0, -1));
     }
 
     private static void crossings() {
-        SpokenBars bars = Check.bars(1);
+        Music bars = Made.bars(1);
         bars.addNote(0, 0, 28, 0, 2, false);
         bars.addRest(0, 0, 4);
         bars.addNote(0, 0, 28, 0, 1, false);
@@ -263,7 +263,7 @@ final class ValuesTest {
     }
 
     private static void whole() {
-        SpokenBars bars = Check.bars(3);
+        Music bars = Made.bars(3);
         bars.addNote(0, 0, 28, 0, 0, true);
         bars.addNote(1, 0, 28, 0, 0, true);
         bars.addRest(1, 1, 1);

@@ -13,7 +13,7 @@ final class WhatIfTest {
     }
 
     private static void changedBy() {
-        SpokenBars bars = Check.bars(1);
+        Music bars = Made.bars(1);
         for (int step = 0; step < 7; step++) {
             bars.addNote(0, 0, 28 + step, 0, 4, false);
         }
@@ -35,7 +35,7 @@ final class WhatIfTest {
 
     /** f4 (31) in both voices: signs, notes behind them and notes tied to them do not change; ties take a change on. */
     private static void changedByTies() {
-        SpokenBars bars = Check.bars(3);
+        Music bars = Made.bars(3);
         bars.addNote(0, 0, 31, 0, 0, true);
         bars.addNote(1, 0, 31, 0, 2, true);
         bars.addNote(1, 0, 31, 0, 2, false);
@@ -54,7 +54,7 @@ final class WhatIfTest {
         Check.equal("nearestKey(1)", bars.nearestKey(1), -6);
         bars.set(1, 0, 1);
         Check.equal("changedBy(1, 0) from 1", bars.changedBy(1, 0), 3);
-        SpokenBars tied = Check.bars(2);
+        Music tied = Made.bars(2);
         tied.addNote(0, 0, 31, 2, 0, true);
         tied.addNote(1, 0, 31, 0, 2, true);
         tied.addNote(1, 0, 31, 0, 2, false);
@@ -64,7 +64,7 @@ final class WhatIfTest {
     }
 
     private static void nearestKey() {
-        SpokenBars bars = Check.bars(1);
+        Music bars = Made.bars(1);
         Check.equal("nearestKey() without notes", bars.nearestKey(0), -7);
         bars.set(0, 0, -7);
         Check.equal("nearestKey() from -7 without notes", bars.nearestKey(0), -6);
@@ -82,7 +82,7 @@ final class WhatIfTest {
         Check.equal("nearestKey() without f and b", bars.nearestKey(0), -1);
         bars.addNote(0, 1, 34, 0, 4, false);
         Check.equal("nearestKey() without f", bars.nearestKey(0), 1);
-        SpokenBars sharps = Check.bars(1);
+        Music sharps = Made.bars(1);
         sharps.set(0, 0, 6);
         sharps.addNote(0, 0, 30, 0, 4, false);
         Check.equal("nearestKey() from 6 with e alone", sharps.nearestKey(0), 7);
@@ -91,7 +91,7 @@ final class WhatIfTest {
     }
 
     private static void needlessSigns() {
-        SpokenBars bars = Check.bars(2);
+        Music bars = Made.bars(2);
         bars.set(0, 0, 1);
         bars.addNote(0, 0, 31, 1, 4, false);
         Check.equal("a sharp of the key", bars.needlessSigns(0), 1);
@@ -113,7 +113,7 @@ final class WhatIfTest {
         bars.addNote(1, 1, 29, 0, 4, false);
         bars.addRest(1, 1, 4);
         Check.equal("naturals in two voices", bars.needlessSigns(1), 3);
-        SpokenBars first = Check.bars(1);
+        Music first = Made.bars(1);
         first.addNote(0, 0, 30, 2, 4, true);
         first.addNote(0, 0, 30, 2, 4, false);
         Check.equal("a flat tied to the first flat", first.needlessSigns(0), 1);
@@ -123,7 +123,7 @@ final class WhatIfTest {
 
     /** Each undoable call is taken back, also one that changes nothing. */
     private static void undo() {
-        SpokenBars bars = Check.bars(3);
+        Music bars = Made.bars(3);
         bars.addRest(1, 0, 4);
         Check.typeText(bars, "bar 1 key 2 sharp voice 1 c 4 half end");
         Runnable[] calls = {bars::addMeasure, () -> bars.removeMeasure(0), () -> bars.set(2, 0, 5), () -> bars.set(2, 0, 0),
@@ -142,7 +142,7 @@ final class WhatIfTest {
     }
 
     private static void undoCounts() {
-        SpokenBars bars = Check.bars(1);
+        Music bars = Made.bars(1);
         for (int tempo = 101; tempo <= 110; tempo++) {
             bars.set(0, 3, tempo);
         }
@@ -158,7 +158,7 @@ final class WhatIfTest {
         Check.equal("tempo of the measure that is back", bars.measure(0, 3), 20);
         Check.equal("undo() of a value", bars.undo(), 0);
         Check.equal("tempo that is back", bars.measure(0, 3), 106);
-        SpokenBars fresh = new SpokenBars();
+        Music fresh = new Music();
         fresh.addMeasure();
         Check.equal("undo() of the first measure", fresh.undo(), 0);
         Check.equal("measures behind it", fresh.whole(0), 0);
@@ -166,7 +166,7 @@ final class WhatIfTest {
 
     /** What throws, what reads a fault, what asks and what changes the text saves nothing. */
     private static void undoOfNothing() {
-        SpokenBars bars = Check.bars(1);
+        Music bars = Made.bars(1);
         bars.undo();
         Check.noPlace("set(0, 0, 0)", () -> bars.set(0, 0, 0));
         Check.badState("undo() behind what threw", bars::undo);
@@ -193,8 +193,16 @@ final class WhatIfTest {
         for (int value = 0; value < 11; value++) {
             fresh *= 31;
         }
-        Check.equal("digest() of a new object", new SpokenBars().digest(), fresh);
-        SpokenBars bars = Check.bars(3);
+        Check.equal("digest() of a new object", new Music().digest(), fresh);
+        Check.equal("digest()", digested().digest(), Check.digestOf(WhatIfTest::digested, 4));
+        Check.equal("digest() behind undo()", undone(digested()).digest(), Check.digestOf(() -> undone(digested()), 3));
+        Check.equal("digest() without a fault", copied(digested()).digest(), Check.digestOf(() -> copied(digested()), 4));
+        Music twice = digested();
+        Check.equal("digest() again", twice.digest(), twice.digest());
+    }
+
+    private static Music digested() {
+        Music bars = Made.bars(3);
         bars.set(0, 4, 1);
         bars.set(1, 5, 2);
         bars.addNote(0, 0, 28, 0, 4, true);
@@ -202,39 +210,16 @@ final class WhatIfTest {
         bars.addRest(1, 1, 4);
         bars.addNote(1, 1, 3, 0, 4, false);
         bars.type(98);
-        Check.equal("digest()", bars.digest(), digestOf(bars, 4));
-        bars.undo();
-        Check.equal("digest() behind undo()", bars.digest(), digestOf(bars, 3));
-        bars.copySentence(0);
-        Check.equal("digest() without a fault", bars.digest(), digestOf(bars, 3));
-        Check.equal("digest() again", bars.digest(), digestOf(bars, 3));
+        return bars;
     }
 
-    private static long digestOf(SpokenBars bars, int states) {
-        long hash = 31 * 43179L + states;
-        for (int what = 0; what <= 8; what++) {
-            hash = 31 * hash + bars.whole(what);
-        }
-        for (int measure = 0; measure < bars.whole(0); measure++) {
-            for (int what = 0; what <= 11; what++) {
-                hash = 31 * hash + bars.measure(measure, what);
-            }
-            for (int voice = 0; voice < 2; voice++) {
-                for (int event = 0; event < bars.measure(measure, 8 + voice); event++) {
-                    for (int what = 0; what <= 9; what++) {
-                        hash = 31 * hash + bars.event(measure, voice, event, what);
-                    }
-                }
-            }
-            hash = 31 * hash + bars.crossings(measure);
-            hash = 31 * hash + bars.timesPlayed(measure);
-            for (int index = 0; index < bars.sentenceLength(measure); index++) {
-                hash = 31 * hash + bars.sentenceByte(measure, index);
-            }
-        }
-        for (int place = 0; place < bars.whole(6); place++) {
-            hash = 31 * hash + bars.order(place);
-        }
-        return 31 * hash + bars.fault();
+    private static Music undone(Music bars) {
+        bars.undo();
+        return bars;
+    }
+
+    private static Music copied(Music bars) {
+        bars.copySentence(0);
+        return bars;
     }
 }

@@ -278,7 +278,7 @@ public final class SpokenBars {
     public int nearestKey(int measure) throws IndexOutOfBoundsException {
         requireMeasure(measure);
         int nearest = NONE;
-        int fewest = Integer.MAX_VALUE;
+        int fewest = Score.VOICES * Score.MOST_EVENTS + 1;
         for (int key = -Score.MOST_SIGNS; key <= Score.MOST_SIGNS; key++) {
             if (key != score.value(measure, Score.KEY)) {
                 int changed = sounds.changedWith(measure, key);
@@ -755,17 +755,26 @@ public final class SpokenBars {
         }
 
         void push(Score score) {
-            saved[next].copyFrom(score);
-            next = (next + 1) % MOST;
-            size = Math.min(size + 1, MOST);
+            Score place = place(next);
+            if (place != null) {
+                place.copyFrom(score);
+                next = (next + 1) % MOST;
+                size = Math.min(size + 1, MOST);
+            }
         }
 
         void popInto(Score score) {
-            if (size > 0) {
-                next = (next + MOST - 1) % MOST;
+            int latest = (next + MOST - 1) % MOST;
+            Score place = place(latest);
+            if (size > 0 && place != null) {
+                score.copyFrom(place);
+                next = latest;
                 size--;
-                score.copyFrom(saved[next]);
             }
+        }
+
+        private Score place(int index) {
+            return index >= 0 && index < MOST ? saved[index] : null;
         }
     }
 
@@ -1039,7 +1048,7 @@ public final class SpokenBars {
         private float secondsOf(Score score, int place) {
             int measure = at(place);
             float tempo = (float) score.value(measure, Score.TEMPO);
-            return (float) score.ticks(measure) * (60.0f / (16.0f * tempo));
+            return tempo > 0.0f ? (float) score.ticks(measure) * (60.0f / (16.0f * tempo)) : 0.0f;
         }
     }
 

@@ -27,14 +27,17 @@ final class ChangesEdgeTest {
                 + "5 times with which it closes one (0, 2 to 4), 6 ending (0 to 4)", ChangesEdgeTest::whatOfSet));
         EDGES.add(new Edge(4, "value: the new value, in its range", ChangesEdgeTest::farValues));
         EDGES.add(new Edge(4, "Returns the previous value.", ChangesEdgeTest::setReturns));
-        EDGES.add(new Edge(4, Edge.NO_MEASURE, () -> Check.refusesMeasures("set()", (music, measure) -> music.set(measure, 0, 1))));
-        EDGES.add(new Edge(4, "Throws IllegalArgumentException if what or value is out of range", ChangesEdgeTest::setOutOfRange));
+        EDGES.add(new Edge(4, Edge.NO_MEASURE, () -> Check.refusesMeasures("set()",
+                (music, measure) -> music.set(measure, 0, 1))));
+        EDGES.add(new Edge(4, "Throws IllegalArgumentException if what or value is out of range",
+                ChangesEdgeTest::setOutOfRange));
         EDGES.add(new Edge(4, Edge.FIRST_LISTED, ChangesEdgeTest::setFirstListed));
         EDGES.add(new Edge(4, Edge.UNDOABLE, ChangesEdgeTest::undoneSet));
     }
 
     private static void ofAddNote() {
-        EDGES.add(new Edge(5, "has two voices, 0 and 1, each with at most 24 events in an order.", ChangesEdgeTest::fullOfNotes));
+        EDGES.add(new Edge(5, "has two voices, 0 and 1, each with at most 24 events in an order.",
+                ChangesEdgeTest::fullOfNotes));
         EDGES.add(new Edge(5, "Adds a note behind the events of a voice.", ChangesEdgeTest::notesInOrder));
         EDGES.add(new Edge(5, Edge.VOICE, ChangesEdgeTest::voicesOfNotes));
         EDGES.add(new Edge(5, "pitch: 0 to 62", ChangesEdgeTest::pitches));
@@ -43,7 +46,8 @@ final class ChangesEdgeTest {
         EDGES.add(new Edge(5, "tied: whether it is tied", ChangesEdgeTest::tiedOrNot));
         EDGES.add(new Edge(5, "A note has a pitch, 7 * octave + step, with an octave from 0 to 8 and a step from 0 to 6 "
                 + "(c, d, e, f, g, a, b)", ChangesEdgeTest::octavesAndSteps));
-        EDGES.add(new Edge(5, "a sign: 0 none, 1 sharp, 2 flat, 3 natural; and is tied or not.", ChangesEdgeTest::signsInWords));
+        EDGES.add(new Edge(5, "a sign: 0 none, 1 sharp, 2 flat, 3 natural; and is tied or not.",
+                ChangesEdgeTest::signsInWords));
         EDGES.add(new Edge(5, "Returns the number of events of the voice.", ChangesEdgeTest::addNoteReturns));
         EDGES.add(new Edge(5, Edge.NO_VOICE, ChangesEdgeTest::noVoiceForNotes));
         EDGES.add(new Edge(5, "Throws IllegalArgumentException if pitch, sign or duration is out of range",
@@ -60,7 +64,8 @@ final class ChangesEdgeTest {
         EDGES.add(new Edge(6, "duration: 0 to 9", ChangesEdgeTest::durationsOfRests));
         EDGES.add(new Edge(6, "Returns the number of events of the voice.", ChangesEdgeTest::addRestReturns));
         EDGES.add(new Edge(6, Edge.NO_VOICE, ChangesEdgeTest::noVoiceForRests));
-        EDGES.add(new Edge(6, "Throws IllegalArgumentException if duration is out of range", ChangesEdgeTest::restOutOfRange));
+        EDGES.add(new Edge(6, "Throws IllegalArgumentException if duration is out of range",
+                ChangesEdgeTest::restOutOfRange));
         EDGES.add(new Edge(6, "Throws IllegalStateException if the voice has 24 events", ChangesEdgeTest::restToFullVoice));
         EDGES.add(new Edge(6, Edge.FIRST_LISTED, ChangesEdgeTest::addRestFirstListed));
         EDGES.add(new Edge(6, Edge.UNDOABLE, ChangesEdgeTest::undoneAddRest));
@@ -70,7 +75,8 @@ final class ChangesEdgeTest {
         EDGES.add(new Edge(7, "Removes an event.", ChangesEdgeTest::removedEvent));
         EDGES.add(new Edge(7, Edge.VOICE, ChangesEdgeTest::voicesOfRemovals));
         EDGES.add(new Edge(7, "event: number of an event of the voice, from 0", ChangesEdgeTest::firstAndLastEvent));
-        EDGES.add(new Edge(7, "Returns the number of events that are left in the voice.", ChangesEdgeTest::removeEventReturns));
+        EDGES.add(new Edge(7, "Returns the number of events that are left in the voice.",
+                ChangesEdgeTest::removeEventReturns));
         EDGES.add(new Edge(7, Edge.NO_EVENT, ChangesEdgeTest::removeNoEvent));
         EDGES.add(new Edge(7, Edge.UNDOABLE, ChangesEdgeTest::undoneRemoveEvent));
     }
@@ -238,7 +244,8 @@ final class ChangesEdgeTest {
         Check.equal("events of voice 1", music.measure(15, 9), 24);
     }
 
-    private static void isNote(Music music, int measure, int voice, int event, int pitch, int sign, int duration, boolean tied) {
+    private static void isNote(Music music, int measure, int voice, int event, int pitch, int sign, int duration,
+            boolean tied) {
         int[] due = {pitch, sign, duration, tied ? 1 : 0};
         for (int what = 0; what < 4; what++) {
             Check.equal("event(" + measure + ", " + voice + ", " + event + ", " + what + ")",
@@ -271,7 +278,8 @@ final class ChangesEdgeTest {
         }
         for (int voice : new int[] {-1, 2, 3, Integer.MIN_VALUE, Integer.MAX_VALUE}) {
             Check.refusedPlace("addNote() to voice " + voice, Made::rich, music -> music.addNote(0, voice, 30, 0, 4, false));
-            Check.refusedPlace("addNote() to voice " + voice, Made::wide, music -> music.addNote(15, voice, 30, 0, 4, false));
+            Check.refusedPlace("addNote() to voice " + voice, Made::wide, music -> music.addNote(15, voice, 30, 0, 4,
+                    false));
         }
     }
 
@@ -587,7 +595,8 @@ final class ChangesEdgeTest {
         Check.refusedPlace("removeEvent() of an empty voice", Made::young, music -> music.removeEvent(0, 0, 0));
         Check.refusedPlace("removeEvent() of an empty voice 1", () -> Made.rests(3, 0), music -> music.removeEvent(0, 1, 0));
         for (int event : new int[] {-1, 3, Integer.MIN_VALUE, Integer.MAX_VALUE}) {
-            Check.refusedPlace("removeEvent() of " + event, () -> Made.rests(3, 24), music -> music.removeEvent(0, 0, event));
+            Check.refusedPlace("removeEvent() of " + event, () -> Made.rests(3, 24),
+                    music -> music.removeEvent(0, 0, event));
         }
         for (int measure : new int[] {-1, 3, 16, Integer.MIN_VALUE, Integer.MAX_VALUE}) {
             Check.refusedPlace("removeEvent() of measure " + measure, Made::rich, music -> music.removeEvent(measure, 0, 0));

@@ -92,7 +92,7 @@ final class Check {
 
     // ---- refused calls, and calls that can be undone
 
-    /** The call throws what is due, and nothing has changed: not what can be asked for, nor the saved states, nor the text. */
+    /** The call throws what is due, and nothing has changed: nothing that can be asked for, no saved state, not the text. */
     static void refused(String what, Class<? extends RuntimeException> due, Supplier<Music> maker, Consumer<Music> call) {
         Music states = maker.get();
         fails(what, due, () -> call.accept(states));
@@ -162,7 +162,7 @@ final class Check {
         }
     }
 
-    /** The call saves the state from before it, once: undo() takes back all that it did, and the states below are the same. */
+    /** The call saves the state from before it, once: undo() takes back all that it did, and the states below stay. */
     static void undoable(String what, Supplier<Music> maker, Consumer<Music> call) {
         int states = undone(maker.get()) + 1;
         Music undone = maker.get();

@@ -15,13 +15,14 @@ final class DocTest {
     private static final Path DOC = Path.of("../shared/DOC.md");
     private static final String TERMS = "the terms";
 
-    private static final List<List<Edge>> TESTS = List.of(MeasuresEdgeTest.EDGES, ChangesEdgeTest.EDGES, ValuesEdgeTest.EDGES,
-            SoundsEdgeTest.EDGES, OrderEdgeTest.EDGES, SentencesEdgeTest.EDGES, TextEdgeTest.EDGES, ReadingEdgeTest.EDGES,
-            WhatIfEdgeTest.EDGES, UndoEdgeTest.EDGES);
+    private static final List<List<Edge>> TESTS = List.of(MeasuresEdgeTest.EDGES, ChangesEdgeTest.EDGES,
+            ValuesEdgeTest.EDGES, SoundsEdgeTest.EDGES, OrderEdgeTest.EDGES, SentencesEdgeTest.EDGES, TextEdgeTest.EDGES,
+            ReadingEdgeTest.EDGES, WhatIfEdgeTest.EDGES, UndoEdgeTest.EDGES);
 
     private static final List<String> WITHOUT_BOUNDARY = List.of("measure: number of a measure", "and", "The constants",
-            "what later calls answer is free", "All numbers are whole, but for seconds(). floor(a / b) rounds towards minus infinity",
-            "MEASURES", "WHAT NOTES SOUND", "REPEATS", "SENTENCES", "READING BACK", "UNDO", "EXCEPTIONS");
+            "what later calls answer is free", "All numbers are whole, but for seconds(). floor(a / b) rounds towards "
+            + "minus infinity", "MEASURES", "WHAT NOTES SOUND", "REPEATS", "SENTENCES", "READING BACK", "UNDO",
+            "EXCEPTIONS");
 
     private final Map<String, List<String>> lines = new HashMap<>();
 

@@ -22,7 +22,7 @@ final class Made {
         return bars(1);
     }
 
-    /** Three measures that repeat, with events in both voices; four saved states, each another one; a text without a fault. */
+    /** Three measures that repeat, with events in both voices; four saved states that differ; a text without a fault. */
     static Music rich() {
         Music music = bars(3);
         music.set(0, 4, 1);
@@ -42,7 +42,7 @@ final class Made {
         return music;
     }
 
-    /** Sixteen measures with the tempos 100 to 115, a note each, of the pitches 30 to 45; four saved states; a text with a fault. */
+    /** Sixteen measures of the tempos 100 to 115, a note in each, of the pitches 30 to 45; a text with a fault. */
     static Music wide() {
         Music music = bars(16);
         for (int measure = 0; measure < 16; measure++) {
@@ -102,7 +102,7 @@ final class Made {
         return music;
     }
 
-    /** Sixteen measures with 24 events in both voices: a chain of 384 tied halves, c 4, in voice 0, and halves in voice 1. */
+    /** Sixteen measures with 24 events in both voices: a chain of 384 tied halves in voice 0, halves in voice 1, all c 4. */
     static Music full() {
         Music music = bars(16);
         for (int event = 0; event < 24; event++) {

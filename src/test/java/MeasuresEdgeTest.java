@@ -13,9 +13,11 @@ final class MeasuresEdgeTest {
             new Edge(2, "A new measure has the key, the time and the tempo of the measure before it",
                     MeasuresEdgeTest::newMeasureTakesOver),
             new Edge(2, "(the first one 0, 4 over 4, 120)", MeasuresEdgeTest::firstMeasure),
-            new Edge(2, "opens and closes nothing, is of no ending, and has no events.", MeasuresEdgeTest::newMeasureIsEmpty),
+            new Edge(2, "opens and closes nothing, is of no ending, and has no events.",
+                    MeasuresEdgeTest::newMeasureIsEmpty),
             new Edge(2, Edge.UNDOABLE, MeasuresEdgeTest::undoneAddMeasure),
-            new Edge(3, "Removes a measure; the numbers of those behind it decrease by 1.", MeasuresEdgeTest::removedMeasure),
+            new Edge(3, "Removes a measure; the numbers of those behind it decrease by 1.",
+                    MeasuresEdgeTest::removedMeasure),
             new Edge(3, "Returns the number of measures that are left.", MeasuresEdgeTest::removeMeasureReturns),
             new Edge(3, Edge.NO_MEASURE, MeasuresEdgeTest::removeNoMeasure),
             new Edge(3, Edge.UNDOABLE, MeasuresEdgeTest::undoneRemoveMeasure));

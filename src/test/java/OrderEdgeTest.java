@@ -24,11 +24,11 @@ final class OrderEdgeTest {
                 OrderEdgeTest::behindEndings));
         EDGES.add(new Edge(13, "the start becomes this measure, and the pass becomes 1", OrderEdgeTest::startAndPassAnew));
         EDGES.add(new Edge(13, "(also if it is left out then).", OrderEdgeTest::leftOutOpenings));
-        EDGES.add(new Edge(13, "If it is of an ending with another number than the pass, it is left out, and the next measure "
-                + "follows.", OrderEdgeTest::leftOutEndings));
+        EDGES.add(new Edge(13, "If it is of an ending with another number than the pass, it is left out, and the next "
+                + "measure follows.", OrderEdgeTest::leftOutEndings));
         EDGES.add(new Edge(13, "Otherwise it is played.", OrderEdgeTest::played));
-        EDGES.add(new Edge(13, "If it closes a repeat then: if the pass is less than its times, the pass increases by 1, and the "
-                + "start follows (by a jump back);", OrderEdgeTest::fewerPassesThanTimes));
+        EDGES.add(new Edge(13, "If it closes a repeat then: if the pass is less than its times, the pass increases by 1, "
+                + "and the start follows (by a jump back);", OrderEdgeTest::fewerPassesThanTimes));
         EDGES.add(new Edge(13, "otherwise the pass becomes 1, the start becomes the next measure, and that follows.",
                 OrderEdgeTest::asManyPassesAsTimes));
         EDGES.add(new Edge(13, "If it closes none, the next measure follows.", OrderEdgeTest::closesNone));
@@ -39,29 +39,33 @@ final class OrderEdgeTest {
     private static void ofOrder() {
         EDGES.add(new Edge(13, "Returns the measure at a place of the order.", OrderEdgeTest::firstAndLastPlace));
         EDGES.add(new Edge(13, "place: 0 or more", OrderEdgeTest::nearAndFarPlaces));
-        EDGES.add(new Edge(13, "Returns the measure; NONE if the order has not so many places.", OrderEdgeTest::behindTheLastPlace));
+        EDGES.add(new Edge(13, "Returns the measure; NONE if the order has not so many places.",
+                OrderEdgeTest::behindTheLastPlace));
         EDGES.add(new Edge(13, "Throws IllegalArgumentException if place is negative", OrderEdgeTest::negativePlaces));
-        EDGES.add(new Edge(13, Edge.NONE_LAST, () -> Check.refusedValue("order(-1) of no places", Music::new, music -> music.order(-1))));
+        EDGES.add(new Edge(13, Edge.NONE_LAST, () -> Check.refusedValue("order(-1) of no places", Music::new,
+                music -> music.order(-1))));
         EDGES.add(new Edge(14, "Returns how often a measure is played.", OrderEdgeTest::playedNeverToFourTimes));
         EDGES.add(new Edge(14, "Returns the number of its places in the order.", OrderEdgeTest::placesOfMeasures));
         EDGES.add(new Edge(14, Edge.NO_MEASURE, () -> Check.refusesMeasures("timesPlayed()", Music::timesPlayed)));
     }
 
     private static void ofSeconds() {
-        EDGES.add(new Edge(15, "Returns how long the order lasts up to a place: a float that is 0.0f at first, and to which for "
-                + "each place before this one, in order, (float) (ticks of its measure) * (60.0f / (16.0f * (float) (its tempo))) "
-                + "is added.", OrderEdgeTest::secondsOfEachPlace));
+        EDGES.add(new Edge(15, "Returns how long the order lasts up to a place: a float that is 0.0f at first, and to "
+                + "which for each place before this one, in order, (float) (ticks of its measure) * (60.0f / (16.0f * "
+                + "(float) (its tempo))) is added.", OrderEdgeTest::secondsOfEachPlace));
         EDGES.add(new Edge(15, "a float that is 0.0f at first", OrderEdgeTest::secondsAtFirst));
-        EDGES.add(new Edge(15, "place: 0 or more; places behind the end of the order add nothing", OrderEdgeTest::secondsBehindTheEnd));
+        EDGES.add(new Edge(15, "place: 0 or more; places behind the end of the order add nothing",
+                OrderEdgeTest::secondsBehindTheEnd));
         EDGES.add(new Edge(15, "Returns the seconds.", OrderEdgeTest::shortestAndLongest));
-        EDGES.add(new Edge(15, "Throws IllegalArgumentException if place is negative", OrderEdgeTest::secondsOfNegativePlaces));
+        EDGES.add(new Edge(15, "Throws IllegalArgumentException if place is negative",
+                OrderEdgeTest::secondsOfNegativePlaces));
     }
 
     private static void ofPlaceAt() {
         EDGES.add(new Edge(16, "Returns the place of the order that is played at a time.", OrderEdgeTest::placesAtTimes));
         EDGES.add(new Edge(16, "seconds: a whole number of seconds, 0 or more", OrderEdgeTest::nearAndFarTimes));
-        EDGES.add(new Edge(16, "Returns the last place p for which seconds(p) is at most (float) seconds, below the number of "
-                + "places;", OrderEdgeTest::lastPlaceAtMost));
+        EDGES.add(new Edge(16, "Returns the last place p for which seconds(p) is at most (float) seconds, below the number "
+                + "of places;", OrderEdgeTest::lastPlaceAtMost));
         EDGES.add(new Edge(16, "NONE if the order has no places, or seconds(number of places) is at most (float) seconds.",
                 OrderEdgeTest::noPlaceAtTimes));
         EDGES.add(new Edge(16, "Throws IllegalArgumentException if seconds is negative", OrderEdgeTest::negativeTimes));
@@ -83,7 +87,8 @@ final class OrderEdgeTest {
     private static void startAndPassAtFirst() {
         due("2", "0 0");
         due("- 2", "0 1 0 1");
-        due("- - - - - - - - - - - - - - - 2", "0 1 2 3 4 5 6 7 8 9 10 11 12 13 14 15 0 1 2 3 4 5 6 7 8 9 10 11 12 13 14 15");
+        due("- - - - - - - - - - - - - - - 2", "0 1 2 3 4 5 6 7 8 9 10 11 12 13 14 15 0 1 2 3 4 5 6 7 8 9 10 11 12 13 14 "
+                + "15");
         due("a", "0");
         due("b", "");
         due("c", "");
@@ -200,7 +205,8 @@ final class OrderEdgeTest {
         due("2 a", "0 0 1");
         due("2 b", "0 0");
         due("- a3 b2 c 2", "0 1 0 2 4 4");
-        due("- 2 - - - - - - - - - - - - - 2", "0 1 0 1 2 3 4 5 6 7 8 9 10 11 12 13 14 15 2 3 4 5 6 7 8 9 10 11 12 13 14 15");
+        due("- 2 - - - - - - - - - - - - - 2", "0 1 0 1 2 3 4 5 6 7 8 9 10 11 12 13 14 15 2 3 4 5 6 7 8 9 10 11 12 13 14 "
+                + "15");
     }
 
     private static void closesNone() {
@@ -435,6 +441,9 @@ final class OrderEdgeTest {
             Check.equal("placeAt(" + seconds + ") without measures", new Music().placeAt(seconds), NONE);
             Check.equal("placeAt(" + seconds + ") if all is left out", Made.repeats("b c").placeAt(seconds), NONE);
         }
+        Check.equal("placeAt(0) of one place", Made.young().placeAt(0), 0);
+        Check.equal("placeAt(1) of one place of 2 seconds", Made.young().placeAt(1), 0);
+        Check.equal("placeAt(2) of one place of 2 seconds", Made.young().placeAt(2), NONE);
         Supplier<Music> two = () -> Made.bars(2);
         Check.equal("placeAt(3) of 4 seconds", two.get().placeAt(3), 1);
         Check.equal("placeAt(4) of 4 seconds", two.get().placeAt(4), NONE);

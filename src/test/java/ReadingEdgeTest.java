@@ -16,13 +16,15 @@ final class ReadingEdgeTest {
     }
 
     private static void ofParts() {
-        EDGES.add(new Edge(24, "It can be read back if it has the parts (1) to (8) in this order", ReadingEdgeTest::partsInOrder));
+        EDGES.add(new Edge(24, "It can be read back if it has the parts (1) to (8) in this order",
+                ReadingEdgeTest::partsInOrder));
         EDGES.add(new Edge(24, "(all but (1), (6), (8) as above can be left out;", ReadingEdgeTest::partsLeftOut));
         EDGES.add(new Edge(24, "\"voice 1\", if it is there, comes before \"voice 2\", behind which no \"voice\" can stand;",
                 ReadingEdgeTest::voicesInOrder));
-        EDGES.add(new Edge(24, "each of them has at least one event, and they can both be left out),", ReadingEdgeTest::voicesWithEvents));
-        EDGES.add(new Edge(24, "with one space at least between two words or numbers, and any spaces at the beginning and at "
-                + "the end.", ReadingEdgeTest::spaces));
+        EDGES.add(new Edge(24, "each of them has at least one event, and they can both be left out),",
+                ReadingEdgeTest::voicesWithEvents));
+        EDGES.add(new Edge(24, "with one space at least between two words or numbers, and any spaces at the beginning and "
+                + "at the end.", ReadingEdgeTest::spaces));
     }
 
     private static void ofNumbers() {
@@ -37,11 +39,12 @@ final class ReadingEdgeTest {
     }
 
     private static void ofFaults() {
-        EDGES.add(new Edge(24, "The fault of the text is the index of the first byte of the first word or number that cannot "
-                + "stand at its place,", ReadingEdgeTest::firstWordThatCannotStand));
+        EDGES.add(new Edge(24, "The fault of the text is the index of the first byte of the first word or number that "
+                + "cannot stand at its place,", ReadingEdgeTest::firstWordThatCannotStand));
         EDGES.add(new Edge(24, "or the length of the text if it ends too soon (spaces at its end included).",
                 ReadingEdgeTest::endsTooSoon));
-        EDGES.add(new Edge(24, "A word or number goes on to the next space, or to the end of the text;", ReadingEdgeTest::endsOfWords));
+        EDGES.add(new Edge(24, "A word or number goes on to the next space, or to the end of the text;",
+                ReadingEdgeTest::endsOfWords));
         EDGES.add(new Edge(24, "one that is not complete is a word that cannot stand.", ReadingEdgeTest::incompleteWords));
         EDGES.add(new Edge(24, "The event that would be the 25th of its voice cannot stand: its first word is at fault.",
                 ReadingEdgeTest::twentyFifthEvent));
@@ -50,23 +53,26 @@ final class ReadingEdgeTest {
     }
 
     private static void ofReadInto() {
-        EDGES.add(new Edge(25, "Reading a text without a fault into a measure gives this measure all events of the text (a voice "
-                + "that it does not tell has none),", ReadingEdgeTest::eventsRead));
-        EDGES.add(new Edge(25, "makes it open a repeat, close one and be of an ending as the text tells (not, if it does not tell "
-                + "so),", ReadingEdgeTest::repeatsRead));
-        EDGES.add(new Edge(25, "and gives it the key and the time of the text, if it tells them.", ReadingEdgeTest::keysAndTimesRead));
+        EDGES.add(new Edge(25, "Reading a text without a fault into a measure gives this measure all events of the text (a "
+                + "voice that it does not tell has none),", ReadingEdgeTest::eventsRead));
+        EDGES.add(new Edge(25, "makes it open a repeat, close one and be of an ending as the text tells (not, if it does "
+                + "not tell so),", ReadingEdgeTest::repeatsRead));
+        EDGES.add(new Edge(25, "and gives it the key and the time of the text, if it tells them.",
+                ReadingEdgeTest::keysAndTimesRead));
         EDGES.add(new Edge(25, "The number of the bar does not matter.", ReadingEdgeTest::numberOfTheBar));
         EDGES.add(new Edge(25, "The tempo stays.", ReadingEdgeTest::tempoStays));
         EDGES.add(new Edge(25, "Reads the text into a measure; the text stays.", ReadingEdgeTest::textStays));
         EDGES.add(new Edge(25, "Undoable, if it has no fault.", ReadingEdgeTest::undoneReadInto));
-        EDGES.add(new Edge(25, "Returns the number of events of the measure; -2000 minus the fault if the text has one (then "
-                + "nothing changes).", ReadingEdgeTest::readIntoReturns));
+        EDGES.add(new Edge(25, "Returns the number of events of the measure; -2000 minus the fault if the text has one "
+                + "(then nothing changes).", ReadingEdgeTest::readIntoReturns));
         EDGES.add(new Edge(25, Edge.NO_MEASURE, () -> Check.refusesMeasures("readInto()", Music::readInto)));
     }
 
     private static void ofTells() {
-        EDGES.add(new Edge(26, "Tells whether the text tells a measure: it has no fault,", ReadingEdgeTest::tellsWithoutFault));
-        EDGES.add(new Edge(26, "and reading it into this measure would change nothing.", ReadingEdgeTest::tellsIfNothingChanges));
+        EDGES.add(new Edge(26, "Tells whether the text tells a measure: it has no fault,",
+                ReadingEdgeTest::tellsWithoutFault));
+        EDGES.add(new Edge(26, "and reading it into this measure would change nothing.",
+                ReadingEdgeTest::tellsIfNothingChanges));
         EDGES.add(new Edge(26, "Returns true if it does.", ReadingEdgeTest::tellsEachMeasure));
         EDGES.add(new Edge(26, Edge.NO_MEASURE, () -> Check.refusesMeasures("tells()", Music::tells)));
     }
@@ -86,7 +92,8 @@ final class ReadingEdgeTest {
     // ---- parts
 
     private static void partsInOrder() {
-        String[] parts = {"bar 1", "open", "ending 1", "key plain", "time 4 4", "voice 1 c 4 half", "voice 2 rest half", "back 2", "end"};
+        String[] parts = {"bar 1", "open", "ending 1", "key plain", "time 4 4", "voice 1 c 4 half", "voice 2 rest half",
+            "back 2", "end"};
         StringBuilder all = new StringBuilder();
         for (String part : parts) {
             all.append(part).append(' ');
@@ -124,27 +131,31 @@ final class ReadingEdgeTest {
     private static void voicesInOrder() {
         due("bar 1 voice 1 c 4 half voice 2 d 4 half end", "bar 1 voice 1 c 4 half end", "bar 1 voice 2 c 4 half end");
         due("bar 1 voice 2 c 4 half |voice 1 d 4 half end", "bar 1 voice 2 c 4 half |voice 2 d 4 half end",
-                "bar 1 voice 2 c 4 half |voice", "bar 1 voice 2 c 4 half |voice x", "bar 1 voice 1 c 4 half voice |1 d 4 half end",
-                "bar 1 voice 1 c 4 half voice 2 d 4 half |voice 1 c 4 half end",
-                "bar 1 voice 1 c 4 half voice 2 d 4 half |voice 2 c 4 half end",
+                "bar 1 voice 2 c 4 half |voice", "bar 1 voice 2 c 4 half |voice x",
+                "bar 1 voice 1 c 4 half voice |1 d 4 half end", "bar 1 voice 1 c 4 half voice 2 d 4 half |voice 1 c 4 half "
+                + "end", "bar 1 voice 1 c 4 half voice 2 d 4 half |voice 2 c 4 half end",
                 "bar 1 voice 1 c 4 half voice 2 d 4 half |voice 3", "bar 1 voice 1 c 4 half voice 2 d 4 half |voice",
                 "bar 1 voice 1 c 4 half voice|", "bar 1 voice 1 c 4 half voice |3", "bar 1 voice 1 c 4 half voice |end");
     }
 
     private static void voicesWithEvents() {
         due("bar 1 end", "bar 1 back 2 end", "bar 1 voice 1 rest half end", "bar 1 voice 1 rest half voice 2 rest half end");
-        due("bar 1 voice 1 |end", "bar 1 voice 1 |back 2 end", "bar 1 voice 1|", "bar 1 voice 1 |", "bar 1 voice 1 |voice 2 c 4 half end",
-                "bar 1 voice 2 |end", "bar 1 voice 2 |back 2 end", "bar 1 voice 2|", "bar 1 voice 1 c 4 half voice 2 |end",
-                "bar 1 voice 1 c 4 half voice 2 |back 2 end", "bar 1 voice 1 c 4 half voice 2|", "bar 1 voice 1 |1");
+        due("bar 1 voice 1 |end", "bar 1 voice 1 |back 2 end", "bar 1 voice 1|", "bar 1 voice 1 |",
+                "bar 1 voice 1 |voice 2 c 4 half end", "bar 1 voice 2 |end", "bar 1 voice 2 |back 2 end", "bar 1 voice 2|",
+                "bar 1 voice 1 c 4 half voice 2 |end", "bar 1 voice 1 c 4 half voice 2 |back 2 end",
+                "bar 1 voice 1 c 4 half voice 2|", "bar 1 voice 1 |1");
     }
 
     private static void spaces() {
         due("bar 1 end", " bar 1 end", "bar  1 end", "bar 1  end", "bar 1 end ", "   bar   1   end   ",
-                "  bar 1   open  ending   3 key  4   sharp time   12  16  voice  1   c  sharp   4 dotted  half   tied  back  2   end  ");
-        due("|bar1 end", "bar |1end", "|bar1end", "bar 1 |openend", "bar 1 ending|", "bar 1 |ending1 end", "bar 1 |keyplain end",
-                "bar 1 key |plainend", "bar 1 key |4sharp end", "bar 1 time |44 end", "bar 1 time 4 |4end", "bar 1 |voice1 c 4 half end",
-                "bar 1 voice |1c 4 half end", "bar 1 voice 1 |c4 half end", "bar 1 voice 1 c |4half end", "bar 1 voice 1 |csharp 4 half end",
-                "bar 1 voice 1 c 4 |dottedhalf end", "bar 1 voice 1 c 4 |halftied end", "bar 1 voice 1 |resthalf end", "bar 1 |back2 end");
+                "  bar 1   open  ending   3 key  4   sharp time   12  16  voice  1   c  sharp   4 dotted  half   tied  "
+                + "back  2   end  ");
+        due("|bar1 end", "bar |1end", "|bar1end", "bar 1 |openend", "bar 1 ending|", "bar 1 |ending1 end",
+                "bar 1 |keyplain end", "bar 1 key |plainend", "bar 1 key |4sharp end", "bar 1 time |44 end",
+                "bar 1 time 4 |4end", "bar 1 |voice1 c 4 half end", "bar 1 voice |1c 4 half end",
+                "bar 1 voice 1 |c4 half end", "bar 1 voice 1 c |4half end", "bar 1 voice 1 |csharp 4 half end",
+                "bar 1 voice 1 c 4 |dottedhalf end", "bar 1 voice 1 c 4 |halftied end", "bar 1 voice 1 |resthalf end",
+                "bar 1 |back2 end");
         for (int value = 0; value <= 127; value++) {
             if (value != ' ' && value != '|') {
                 due("|bar" + (char) value + "1 end", "bar |1" + (char) value + "end");
@@ -168,7 +179,7 @@ final class ReadingEdgeTest {
 
     // ---- numbers
 
-    /** The text is around the number: a mark in it stands ahead of the number, and is taken off where the number can stand. */
+    /** All numbers to 999 between the texts ahead and behind, and those at the ends of the range with zeros in front. */
     private static void number(String ahead, String behind, int low, int high) {
         for (int number = 0; number <= 999; number++) {
             boolean fits = number >= low && number <= high;
@@ -177,14 +188,16 @@ final class ReadingEdgeTest {
         for (int number : new int[] {low, high}) {
             String three = "" + (1000 + number);
             due(ahead + number + behind, ahead + three.substring(1) + behind, ahead + "|0" + three.substring(1) + behind);
-            due(ahead + "|00" + three.substring(1) + behind, ahead + "|" + three + behind, ahead + "|" + number + "000" + behind);
+            due(ahead + "|00" + three.substring(1) + behind, ahead + "|" + three + behind,
+                    ahead + "|" + number + "000" + behind);
             due(ahead + "|-" + number + behind, ahead + "|+" + number + behind, ahead + "|" + number + "." + behind);
         }
         due(ahead + "|x" + behind, ahead + "|1x" + behind, ahead + "|x1" + behind, ahead + "|99999999999");
     }
 
     private static void digits() {
-        due("bar 1 end", "bar 12 end", "bar 123 end", "bar 001 end", "bar 000 end", "bar 00 end", "bar 010 end", "bar 999 end");
+        due("bar 1 end", "bar 12 end", "bar 123 end", "bar 001 end", "bar 000 end", "bar 00 end", "bar 010 end",
+                "bar 999 end");
         due("bar |1234 end", "bar |0001 end", "bar |0000 end", "bar |1000 end", "bar |00000000000000000001 end",
                 "bar |4294967297 end", "bar |2147483649 end", "bar |18446744073709551617 end");
         due("bar 1 ending 04 key 007 flat time 012 016 voice 01 c 08 half voice 002 c 000 half back 004 end");
@@ -193,8 +206,9 @@ final class ReadingEdgeTest {
         for (int value = 0; value <= 127; value++) {
             boolean digit = value >= '0' && value <= '9';
             if (value != ' ' && value != '|') {
-                due("bar " + (digit ? "" : "|") + (char) value + " end", "bar " + (digit ? "" : "|") + "1" + (char) value + " end",
-                        "bar " + (digit ? "" : "|") + (char) value + "1 end", "bar " + (digit ? "" : "|") + "1" + (char) value + "1 end");
+                due("bar " + (digit ? "" : "|") + (char) value + " end", "bar " + (digit ? "" : "|") + "1" + (char) value
+                        + " end", "bar " + (digit ? "" : "|") + (char) value + "1 end",
+                        "bar " + (digit ? "" : "|") + "1" + (char) value + "1 end");
             }
         }
     }
@@ -212,8 +226,8 @@ final class ReadingEdgeTest {
     private static void numbersOfSigns() {
         number("bar 1 key ", " sharp end", 1, 7);
         number("bar 1 key ", " flat end", 1, 7);
-        due("bar 1 key plain end", "bar 1 key |0 plain end", "bar 1 key 1 |plain end", "bar 1 key 1 |natural end", "bar 1 key 1 |end",
-                "bar 1 key plain |sharp end", "bar 1 key |sharp end", "bar 1 key 1|");
+        due("bar 1 key plain end", "bar 1 key |0 plain end", "bar 1 key 1 |plain end", "bar 1 key 1 |natural end",
+                "bar 1 key 1 |end", "bar 1 key plain |sharp end", "bar 1 key |sharp end", "bar 1 key 1|");
     }
 
     private static void numbersOfTimes() {
@@ -248,13 +262,16 @@ final class ReadingEdgeTest {
     // ---- faults
 
     private static void firstWordThatCannotStand() {
-        due("|x", "|x bar 1 end", "|x y z", "bar |x y", "bar 1 |x y", "bar 1 |x end", "bar 1 end |x", "bar 1 end |x y", "bar 1 end |end",
-                "   |x", "bar   |x   y", "bar 1    |x", "bar 1 end    |x   ", "bar 1 |1 x", "bar |bar bar");
-        due("bar 1 voice 1 |x", "bar 1 voice 1 c |x", "bar 1 voice 1 c sharp |x", "bar 1 voice 1 c 4 |x", "bar 1 voice 1 c 4 dotted |x",
-                "bar 1 voice 1 c 4 half |x", "bar 1 voice 1 c 4 half tied |x", "bar 1 voice 1 rest |x", "bar 1 voice 1 rest dotted |x",
-                "bar 1 voice 1 rest half |x", "bar 1 voice 1 rest half |tied", "bar 1 voice 1 rest |sharp", "bar 1 voice 1 rest |4");
-        due("bar 1 voice 1 c 4 half |dotted", "bar 1 voice 1 c 4 half tied |tied", "bar 1 voice 1 c 4 |tied", "bar 1 voice 1 c 4 |sharp",
-                "bar 1 voice 1 c sharp |sharp", "bar 1 voice 1 c |dotted", "bar 1 voice 1 c |half", "bar 1 voice 1 c 4 dotted |dotted");
+        due("|x", "|x bar 1 end", "|x y z", "bar |x y", "bar 1 |x y", "bar 1 |x end", "bar 1 end |x", "bar 1 end |x y",
+                "bar 1 end |end", "   |x", "bar   |x   y", "bar 1    |x", "bar 1 end    |x   ", "bar 1 |1 x",
+                "bar |bar bar");
+        due("bar 1 voice 1 |x", "bar 1 voice 1 c |x", "bar 1 voice 1 c sharp |x", "bar 1 voice 1 c 4 |x",
+                "bar 1 voice 1 c 4 dotted |x", "bar 1 voice 1 c 4 half |x", "bar 1 voice 1 c 4 half tied |x",
+                "bar 1 voice 1 rest |x", "bar 1 voice 1 rest dotted |x", "bar 1 voice 1 rest half |x",
+                "bar 1 voice 1 rest half |tied", "bar 1 voice 1 rest |sharp", "bar 1 voice 1 rest |4");
+        due("bar 1 voice 1 c 4 half |dotted", "bar 1 voice 1 c 4 half tied |tied", "bar 1 voice 1 c 4 |tied",
+                "bar 1 voice 1 c 4 |sharp", "bar 1 voice 1 c sharp |sharp", "bar 1 voice 1 c |dotted",
+                "bar 1 voice 1 c |half", "bar 1 voice 1 c 4 dotted |dotted");
         for (int value = 0; value <= 127; value++) {
             if (value != ' ' && value != '|') {
                 boolean letter = value >= 'a' && value <= 'g';
@@ -268,7 +285,8 @@ final class ReadingEdgeTest {
     }
 
     private static void endsTooSoon() {
-        String text = "bar 1 open ending 2 key 3 flat time 12 16 voice 1 c sharp 4 dotted half voice 2 rest dotted quarter back 2 end";
+        String text = "bar 1 open ending 2 key 3 flat time 12 16 voice 1 c sharp 4 dotted half voice 2 rest dotted quarter "
+                + "back 2 end";
         String[] words = text.split(" ");
         StringBuilder ahead = new StringBuilder();
         for (int count = 0; count < words.length; count++) {
@@ -285,8 +303,8 @@ final class ReadingEdgeTest {
     }
 
     private static void endsOfWords() {
-        due("bar 1 |end.", "bar 1 |end\0", "bar 1 |end\n", "bar 1 |endend", "bar 1 |end1", "|barbar 1 end", "bar 1 |opens end",
-                "bar 1 end", "bar 1 end ", "bar 12|", "bar 1 |\tend");
+        due("bar 1 |end.", "bar 1 |end\0", "bar 1 |end\n", "bar 1 |endend", "bar 1 |end1", "|barbar 1 end",
+                "bar 1 |opens end", "bar 1 end", "bar 1 end ", "bar 12|", "bar 1 |\tend");
         due("bar 1 voice 1 |cc 4 half end", "bar 1 voice 1 |c# 4 half end", "bar 1 voice 1 c 4 half |cs");
         Music longWord = new Music();
         for (int count = 0; count < 500; count++) {
@@ -296,11 +314,11 @@ final class ReadingEdgeTest {
     }
 
     private static void incompleteWords() {
-        String[] aheads = {"", "bar 1 ", "bar 1 ", "bar 1 ", "bar 1 key ", "bar 1 key 1 ", "bar 1 key 1 ", "bar 1 ", "bar 1 ",
-            "bar 1 voice 1 ", "bar 1 voice 1 c ", "bar 1 voice 1 c 4 ", "bar 1 voice 1 c 4 ", "bar 1 voice 1 c 4 ",
+        String[] aheads = {"", "bar 1 ", "bar 1 ", "bar 1 ", "bar 1 key ", "bar 1 key 1 ", "bar 1 key 1 ", "bar 1 ",
+            "bar 1 ", "bar 1 voice 1 ", "bar 1 voice 1 c ", "bar 1 voice 1 c 4 ", "bar 1 voice 1 c 4 ", "bar 1 voice 1 c 4 ",
             "bar 1 voice 1 c 4 ", "bar 1 voice 1 c 4 ", "bar 1 voice 1 c 4 ", "bar 1 voice 1 c 4 half ", "bar 1 ", "bar 1 "};
-        String[] words = {"bar", "open", "ending", "key", "plain", "sharp", "flat", "time", "voice", "rest", "natural", "dotted",
-            "whole", "half", "quarter", "eighth", "sixteenth", "tied", "back", "end"};
+        String[] words = {"bar", "open", "ending", "key", "plain", "sharp", "flat", "time", "voice", "rest", "natural",
+            "dotted", "whole", "half", "quarter", "eighth", "sixteenth", "tied", "back", "end"};
         for (int index = 0; index < words.length; index++) {
             for (int length = 1; length < words[index].length(); length++) {
                 String part = words[index].substring(0, length);
@@ -325,12 +343,15 @@ final class ReadingEdgeTest {
         for (int[] counts : new int[][] {{24, 0}, {0, 24}, {1, 24}, {24, 24}}) {
             String text = notes(counts[0], counts[1]);
             due(text + " end", text + " tied end", text + " back 4 end");
-            due(text + " |c 4 half end", text + " |rest half end", text + " |c", text + " |rest", text + " |g x", text + "|");
+            due(text + " |c 4 half end", text + " |rest half end", text + " |c", text + " |rest", text + " |g x",
+                    text + "|");
             due(text + " tied |c 4 half end", text + " |dotted", text + " |h 4 half end");
         }
-        due(notes(23, 0) + " c 4 half end", notes(23, 0) + " rest half end", notes(23, 0) + " c |x", notes(0, 23) + " rest half end");
+        due(notes(23, 0) + " c 4 half end", notes(23, 0) + " rest half end", notes(23, 0) + " c |x",
+                notes(0, 23) + " rest half end");
         due(notes(24, 0) + " voice 2 c 4 half end", notes(24, 0) + " |voic");
-        due("bar 1 voice 2" + " rest half".repeat(24) + " end", "bar 1 voice 2" + " rest half".repeat(24) + " |rest half end");
+        due("bar 1 voice 2" + " rest half".repeat(24) + " end", "bar 1 voice 2" + " rest half".repeat(24)
+                + " |rest half end");
         Music music = Made.text(notes(24, 24) + " end");
         music.addMeasure();
         Check.equal("readInto() of 48 events", music.readInto(0), 48);
@@ -392,17 +413,20 @@ final class ReadingEdgeTest {
         Check.equal(what, Check.sentence(music, measure), sentence);
     }
 
-    private static final String UNTOUCHED = "open ending 2 voice 1 f sharp 5 dotted half tied rest dotted eighth g 5 dotted half "
-            + "voice 2 rest half f flat 5 dotted half tied back 3 end";
+    private static final String UNTOUCHED = "open ending 2 voice 1 f sharp 5 dotted half tied rest dotted eighth g 5 "
+            + "dotted half voice 2 rest half f flat 5 dotted half tied back 3 end";
 
     private static void eventsRead() {
-        String[] voices = {"", "voice 1 c 4 half ", "voice 2 rest half ", "voice 1 rest sixteenth voice 2 b natural 8 whole tied "};
+        String[] voices = {"", "voice 1 c 4 half ", "voice 2 rest half ", "voice 1 rest sixteenth voice 2 b natural 8 "
+            + "whole tied "};
         int[][] counts = {{0, 0}, {1, 0}, {0, 1}, {1, 1}};
         for (int index = 0; index < voices.length; index++) {
             Music music = set("bar 2 " + voices[index] + "end");
             Check.equal("readInto(1)", music.readInto(1), counts[index][0] + counts[index][1]);
-            isMeasure("the measure", music, 1, "bar 2 " + voices[index] + "end", 5, 7, 8, 99, 0, 0, 0, 56, counts[index][0], counts[index][1]);
-            isMeasure("the measure before", music, 0, "bar 1 " + UNTOUCHED.replace("ending 2 ", "ending 2 key 5 sharp time 7 8 "));
+            isMeasure("the measure", music, 1, "bar 2 " + voices[index] + "end", 5, 7, 8, 99, 0, 0, 0, 56, counts[index][0],
+                    counts[index][1]);
+            isMeasure("the measure before", music, 0, "bar 1 " + UNTOUCHED.replace("ending 2 ",
+                    "ending 2 key 5 sharp time 7 8 "));
             if (counts[index][0] == 0) {
                 Check.noPlace("an event of the voice that has none", () -> music.event(1, 0, 0, 2));
             }
@@ -440,7 +464,8 @@ final class ReadingEdgeTest {
                 Music music = set("bar 1 time " + upper + " " + lower + " end");
                 music.readInto(1);
                 boolean same = upper == 7 && lower == 8;
-                isMeasure("a time", music, 1, same ? "bar 2 end" : "bar 2 time " + upper + " " + lower + " end", 5, upper, lower, 99);
+                isMeasure("a time", music, 1, same ? "bar 2 end" : "bar 2 time " + upper + " " + lower + " end", 5, upper,
+                        lower, 99);
             }
         }
         Music neither = set("bar 1 end");
@@ -508,13 +533,15 @@ final class ReadingEdgeTest {
 
     private static void readIntoReturns() {
         String[] texts = {"bar 1 end", "bar 1 voice 1 c 4 half end", "bar 1 voice 2 c 4 half rest half end",
-            "bar 1 voice 1 c 4 half d 4 half voice 2 rest half end", "", " ", "x", "bar 1", "bar 1 en", "bar 1 end x", "   x"};
+            "bar 1 voice 1 c 4 half d 4 half voice 2 rest half end", "", " ", "x", "bar 1", "bar 1 en", "bar 1 end x",
+            "   x"};
         int[] due = {0, 1, 2, 3, -2000, -2001, -2000, -2005, -2006, -2010, -2003};
         for (int index = 0; index < texts.length; index++) {
             Check.equal("readInto(1) of \"" + texts[index] + "\"", set(texts[index]).readInto(1), due[index]);
         }
         Check.equal("readInto() of the most events", set(notes(24, 0) + " end").readInto(0), 24);
-        for (String text : new String[] {"", "bar 1 open ending 1 key plain time 4 4 voice 1 c 4 half back 2 en", "bar 1 end x"}) {
+        for (String text : new String[] {"", "bar 1 open ending 1 key plain time 4 4 voice 1 c 4 half back 2 en",
+                "bar 1 end x"}) {
             Music got = set(text);
             got.readInto(1);
             Check.sameStates("behind readInto() of \"" + text + "\"", got, set(text));
@@ -561,20 +588,22 @@ final class ReadingEdgeTest {
             Check.isTrue("\"" + text + "\" tells the measure", set(text).tells(1) && set(text).tells(0));
         }
         String[] other = {"bar 1 ending 2 " + voice1 + voice2 + "back 3 end", "bar 1 open " + voice1 + voice2 + "back 3 end",
-            "bar 1 open ending 1 " + voice1 + voice2 + "back 3 end", head + voice1 + voice2 + "end", head + voice1 + voice2 + "back 2 end",
-            head + voice1 + "back 3 end", head + voice2 + "back 3 end", head + "back 3 end",
-            head + "key 5 flat " + voice1 + voice2 + "back 3 end", head + "key 4 sharp " + voice1 + voice2 + "back 3 end",
-            head + "key plain " + voice1 + voice2 + "back 3 end", head + "time 7 4 " + voice1 + voice2 + "back 3 end",
-            head + "time 6 8 " + voice1 + voice2 + "back 3 end", head + voice1 + "rest sixteenth " + voice2 + "back 3 end",
-            head + voice1 + voice2 + "rest sixteenth back 3 end", head + voice1.replace(" g 5 dotted half", "") + voice2 + "back 3 end",
+            "bar 1 open ending 1 " + voice1 + voice2 + "back 3 end", head + voice1 + voice2 + "end",
+            head + voice1 + voice2 + "back 2 end", head + voice1 + "back 3 end", head + voice2 + "back 3 end",
+            head + "back 3 end", head + "key 5 flat " + voice1 + voice2 + "back 3 end",
+            head + "key 4 sharp " + voice1 + voice2 + "back 3 end", head + "key plain " + voice1 + voice2 + "back 3 end",
+            head + "time 7 4 " + voice1 + voice2 + "back 3 end", head + "time 6 8 " + voice1 + voice2 + "back 3 end",
+            head + voice1 + "rest sixteenth " + voice2 + "back 3 end", head + voice1 + voice2 + "rest sixteenth back 3 end",
+            head + voice1.replace(" g 5 dotted half", "") + voice2 + "back 3 end",
             head + voice1 + voice2.replace(" f flat 5 dotted half tied", "") + "back 3 end", "bar 1 end"};
         for (String text : other) {
             Check.isTrue("\"" + text + "\" does not tell the measure", !set(text).tells(1) && !set(text).tells(0));
         }
-        String[][] replaced = {{"f sharp", "f flat"}, {"f sharp", "f"}, {"f sharp", "e sharp"}, {"5", "4"}, {"half tied", "half"},
-            {"rest dotted eighth", "rest eighth"}, {"rest dotted eighth", "rest dotted quarter"}, {"rest dotted eighth", "c 0 dotted eighth"},
-            {"g 5 dotted half", "g 5 dotted half tied"}, {"g 5 dotted half", "g 5 half"}, {"g 5 dotted half", "rest dotted half"},
-            {"f flat", "f natural"}, {"rest half", "rest whole"}};
+        String[][] replaced = {{"f sharp", "f flat"}, {"f sharp", "f"}, {"f sharp", "e sharp"}, {"5", "4"},
+            {"half tied", "half"}, {"rest dotted eighth", "rest eighth"}, {"rest dotted eighth", "rest dotted quarter"},
+            {"rest dotted eighth", "c 0 dotted eighth"}, {"g 5 dotted half", "g 5 dotted half tied"},
+            {"g 5 dotted half", "g 5 half"}, {"g 5 dotted half", "rest dotted half"}, {"f flat", "f natural"},
+            {"rest half", "rest whole"}};
         for (String[] pair : replaced) {
             String text = "bar 1 " + UNTOUCHED.replace(pair[0], pair[1]);
             Check.equal("fault() of \"" + text + "\"", Made.text(text).fault(), NONE);

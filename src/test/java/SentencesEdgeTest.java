@@ -13,22 +13,22 @@ final class SentencesEdgeTest {
     }
 
     private static void ofWording() {
-        EDGES.add(new Edge(18, "The sentence of a measure consists of words and numbers, with one space (byte 32) between two "
-                + "of them:", SentencesEdgeTest::spaces));
+        EDGES.add(new Edge(18, "The sentence of a measure consists of words and numbers, with one space (byte 32) between "
+                + "two of them:", SentencesEdgeTest::spaces));
         EDGES.add(new Edge(18, "(1) \"bar\", and the number of the measure plus 1;", SentencesEdgeTest::numbersOfBars));
         EDGES.add(new Edge(18, "(2) \"open\" if it opens a repeat;", SentencesEdgeTest::openings));
         EDGES.add(new Edge(18, "(3) \"ending\" and its number, if it is of one;", SentencesEdgeTest::endings));
-        EDGES.add(new Edge(18, "(4) if it is the first measure, or has another key than the one before it: \"key\", and then",
-                SentencesEdgeTest::keysThatAreTold));
+        EDGES.add(new Edge(18, "(4) if it is the first measure, or has another key than the one before it: \"key\", and "
+                + "then", SentencesEdgeTest::keysThatAreTold));
         EDGES.add(new Edge(18, "\"plain\" for the key 0, or the number of signs and \"sharp\" or \"flat\";",
                 SentencesEdgeTest::wordsOfKeys));
-        EDGES.add(new Edge(18, "(5) if it is the first measure, or has another time than the one before it (another upper or "
-                + "lower number): \"time\", the upper and the lower number;", SentencesEdgeTest::times));
+        EDGES.add(new Edge(18, "(5) if it is the first measure, or has another time than the one before it (another upper "
+                + "or lower number): \"time\", the upper and the lower number;", SentencesEdgeTest::times));
         EDGES.add(new Edge(18, "(6) for each voice that has events: \"voice\", its number plus 1, and its events:",
                 SentencesEdgeTest::voices));
-        EDGES.add(new Edge(18, "for a note, its letter (c, d, e, f, g, a, b), \"sharp\", \"flat\" or \"natural\" if it has a sign, "
-                + "its octave, \"dotted\" if it is dotted, \"whole\", \"half\", \"quarter\", \"eighth\" or \"sixteenth\", and "
-                + "\"tied\" if it is tied;", SentencesEdgeTest::notes));
+        EDGES.add(new Edge(18, "for a note, its letter (c, d, e, f, g, a, b), \"sharp\", \"flat\" or \"natural\" if it has "
+                + "a sign, its octave, \"dotted\" if it is dotted, \"whole\", \"half\", \"quarter\", \"eighth\" or "
+                + "\"sixteenth\", and \"tied\" if it is tied;", SentencesEdgeTest::notes));
         EDGES.add(new Edge(18, "for a rest, \"rest\", \"dotted\" if it is dotted, and the value as for a note;",
                 SentencesEdgeTest::rests));
         EDGES.add(new Edge(18, "(7) \"back\" and the times, if it closes a repeat;", SentencesEdgeTest::closings));
@@ -42,14 +42,16 @@ final class SentencesEdgeTest {
         EDGES.add(new Edge(17, Edge.NO_MEASURE, () -> Check.refusesMeasures("sentenceLength()", Music::sentenceLength)));
         EDGES.add(new Edge(18, "Returns a byte of the sentence of a measure.", SentencesEdgeTest::bytes));
         EDGES.add(new Edge(18, "index: 0 or more", SentencesEdgeTest::nearAndFarIndexes));
-        EDGES.add(new Edge(18, "Returns the byte; NONE if the sentence has not so many.", SentencesEdgeTest::behindTheLastByte));
+        EDGES.add(new Edge(18, "Returns the byte; NONE if the sentence has not so many.",
+                SentencesEdgeTest::behindTheLastByte));
         EDGES.add(new Edge(18, Edge.NO_MEASURE,
                 () -> Check.refusesMeasures("sentenceByte()", (music, measure) -> music.sentenceByte(measure, 0))));
         EDGES.add(new Edge(18, "Throws IllegalArgumentException if index is negative", SentencesEdgeTest::negativeIndexes));
         EDGES.add(new Edge(18, Edge.FIRST_LISTED, SentencesEdgeTest::sentenceByteFirstListed));
         EDGES.add(new Edge(18, Edge.NONE_LAST,
                 () -> Check.refusedPlace("a far index of no measure", Made::rich, music -> music.sentenceByte(3, 9999))));
-        EDGES.add(new Edge(19, "Counts the words and numbers of the sentence of a measure.", SentencesEdgeTest::fewestAndMostWords));
+        EDGES.add(new Edge(19, "Counts the words and numbers of the sentence of a measure.",
+                SentencesEdgeTest::fewestAndMostWords));
         EDGES.add(new Edge(19, Edge.RETURNS_NUMBER, SentencesEdgeTest::wordsOfEachKind));
         EDGES.add(new Edge(19, Edge.NO_MEASURE, () -> Check.refusesMeasures("words()", Music::words)));
     }
@@ -204,8 +206,9 @@ final class SentencesEdgeTest {
                 boolean tied = (pitch + sign) % 2 == 0;
                 Music music = Made.bars(2);
                 music.addNote(1, pitch % 2, pitch, sign, duration, tied);
-                told(music, 1, "bar 2 voice " + (1 + pitch % 2) + " " + "cdefgab".charAt(pitch % 7) + " " + signs[sign] + pitch / 7
-                        + " " + (duration % 2 == 1 ? "dotted " : "") + values[duration / 2] + (tied ? " tied" : "") + " end");
+                told(music, 1, "bar 2 voice " + (1 + pitch % 2) + " " + "cdefgab".charAt(pitch % 7) + " " + signs[sign]
+                        + pitch / 7 + " " + (duration % 2 == 1 ? "dotted " : "") + values[duration / 2]
+                        + (tied ? " tied" : "") + " end");
             }
         }
         Music music = Made.bars(2);
@@ -259,7 +262,8 @@ final class SentencesEdgeTest {
     private static void lengthsAround600() {
         for (int length = 598; length <= 601; length++) {
             int due = length;
-            Check.equal("bytes of a sentence of " + length, Check.sentence(() -> Made.longSentence(due), 0).length(), length);
+            Check.equal("bytes of a sentence of " + length, Check.sentence(() -> Made.longSentence(due), 0).length(),
+                    length);
         }
     }
 
@@ -376,7 +380,8 @@ final class SentencesEdgeTest {
         Music just = Made.longText(600);
         Check.isTrue("a text of 600 tells its measure", just.tells(0));
         Check.refusedState("copySentence() of 601", () -> Made.longSentence(601), music -> music.copySentence(0));
-        Check.refusedState("copySentence() of 601 with a text", SentencesEdgeTest::longWithText, music -> music.copySentence(0));
+        Check.refusedState("copySentence() of 601 with a text", SentencesEdgeTest::longWithText,
+                music -> music.copySentence(0));
         Check.refusedState("copySentence() of the longest", Made::longest, music -> music.copySentence(15));
         Music shorter = Made.longSentence(601);
         shorter.removeEvent(0, 1, 12);

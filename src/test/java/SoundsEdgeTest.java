@@ -9,7 +9,8 @@ final class SoundsEdgeTest {
     static {
         EDGES.add(new Edge(9, "The shift of a note is found like this, by the first of these that holds:",
                 SoundsEdgeTest::firstThatHolds));
-        EDGES.add(new Edge(9, "(1) it has a sign: 1 for a sharp, -1 for a flat, 0 for a natural;", SoundsEdgeTest::ownSigns));
+        EDGES.add(new Edge(9, "(1) it has a sign: 1 for a sharp, -1 for a flat, 0 for a natural;",
+                SoundsEdgeTest::ownSigns));
         EDGES.add(new Edge(9, "(2) the event before it in its voice is a note of the same pitch that is tied",
                 SoundsEdgeTest::tiedBefore));
         EDGES.add(new Edge(9, "(if it is the first event of its measure, the last event of this voice in the measure with "
@@ -25,6 +26,8 @@ final class SoundsEdgeTest {
         EDGES.add(new Edge(9, "otherwise 0.", SoundsEdgeTest::plainKey));
         EDGES.add(new Edge(9, "It sounds 12 * octave + (0, 2, 4, 5, 7, 9, 11 for the steps 0 to 6) + shift.",
                 SoundsEdgeTest::lowestToHighest));
+        EDGES.add(new Edge(9, "the last event of this voice in the measure with the number before",
+                SoundsEdgeTest::lastEventChanges));
         EDGES.add(new Edge(9, "A tie holds if the next event of its voice", SoundsEdgeTest::tiesToTheNext));
         EDGES.add(new Edge(9, "(if it is the last one of its measure, the first event of this voice in the measure with "
                 + "the next number, if it has events there)", SoundsEdgeTest::tiesOverTheBar));
@@ -78,7 +81,8 @@ final class SoundsEdgeTest {
         for (int key : new int[] {-7, -1, 0, 1, 7}) {
             for (int pitch : new int[] {0, 31, 34, 62}) {
                 for (int sign = 1; sign <= 3; sign++) {
-                    lastShift("sign " + sign + " of pitch " + pitch + " in key " + key, SIGN_SHIFTS[sign], key, note(pitch, sign, false));
+                    lastShift("sign " + sign + " of pitch " + pitch + " in key " + key, SIGN_SHIFTS[sign], key,
+                            note(pitch, sign, false));
                 }
             }
         }
@@ -135,6 +139,38 @@ final class SoundsEdgeTest {
         Check.equal("the second event, behind another pitch", notFirst.event(1, 0, 1, 6), 0);
     }
 
+    /** Each call that puts another event last, or takes it away, is felt behind the bar at once. */
+    private static void lastEventChanges() {
+        Music music = overBar(note(31, 1, true), note(31, 0, false));
+        overTheBar("at first", music, 1, 0);
+        music.addRest(0, 0, 4);
+        overTheBar("behind addRest()", music, 0, 1);
+        music.removeEvent(0, 0, 1);
+        overTheBar("behind removeEvent()", music, 1, 0);
+        music.addNote(0, 0, 31, 2, 4, true);
+        overTheBar("behind addNote()", music, -1, 0);
+        Check.equal("the tie of the note added", music.event(0, 0, 1, 9), 0);
+        music.undo();
+        overTheBar("behind undo()", music, 1, 0);
+        Made.type(music, "bar 1 voice 1 f flat 4 half tied end");
+        music.readInto(0);
+        overTheBar("behind readInto()", music, -1, 0);
+        music.set(0, 0, 1);
+        music.set(1, 0, 1);
+        overTheBar("behind set()", music, -1, 0);
+        music.readInto(0);
+        music.removeMeasure(0);
+        Check.equal("shift behind removeMeasure()", music.event(0, 0, 0, 6), 1);
+        music.undo();
+        overTheBar("behind undo() of removeMeasure()", music, -1, 0);
+    }
+
+    /** The shift of the first note behind the bar, and whether the tie of the very first note is broken. */
+    private static void overTheBar(String when, Music music, int shift, int broken) {
+        Check.equal("shift " + when, music.event(1, 0, 0, 6), shift);
+        Check.equal("broken tie " + when, music.event(0, 0, 0, 9), broken);
+    }
+
     /** The shift goes through ties of notes without signs, as far as there are notes, and changes with the first one. */
     private static void chainsOfTies() {
         Music full = Made.full();
@@ -145,8 +181,8 @@ final class SoundsEdgeTest {
         Check.equal("what is not tied", full.event(15, 1, 23, 6), 0);
         full.undo();
         Check.equal("the last behind undo()", full.event(15, 0, 23, 6), 0);
-        Music changing = voice(0, note(31, 1, true), note(31, 0, true), note(31, 2, true), note(31, 0, true), note(31, 3, true),
-                note(31, 0, false));
+        Music changing = voice(0, note(31, 1, true), note(31, 0, true), note(31, 2, true), note(31, 0, true),
+                note(31, 3, true), note(31, 0, false));
         int[] due = {1, 1, -1, -1, 0, 0};
         for (int event = 0; event < 6; event++) {
             Check.equal("shift of tied note " + event, changing.event(0, 1, event, 6), due[event]);
@@ -187,8 +223,8 @@ final class SoundsEdgeTest {
     private static void latestSign() {
         for (int latest = 1; latest <= 3; latest++) {
             for (int earlier = 1; earlier <= 3; earlier++) {
-                lastShift("sign " + latest + " behind " + earlier, SIGN_SHIFTS[latest], 7,
-                        note(28, earlier, false), REST, note(28, latest, false), note(30, earlier, false), note(28, 0, false));
+                lastShift("sign " + latest + " behind " + earlier, SIGN_SHIFTS[latest], 7, note(28, earlier, false), REST,
+                        note(28, latest, false), note(30, earlier, false), note(28, 0, false));
             }
         }
         lastShift("a tied note without a sign is none", 1, 0,
@@ -317,7 +353,8 @@ final class SoundsEdgeTest {
         held("one note", 16, voice(0, note(31, 0, false)), 0, 1, 0);
         held("a broken tie", 16, voice(0, note(31, 0, true), note(30, 0, true), note(30, 0, false)), 0, 1, 0);
         held("two tied notes", 32, voice(0, note(31, 0, true), note(31, 1, false), note(31, 0, false)), 0, 1, 0);
-        held("three tied notes, the last one broken", 48, voice(0, note(31, 0, true), note(31, 0, true), note(31, 0, true)), 0, 1, 0);
+        held("three tied notes, the last one broken", 48, voice(0, note(31, 0, true), note(31, 0, true), note(31, 0, true)),
+                0, 1, 0);
         held("not tied to a tied one", 16, voice(0, note(31, 0, false), note(31, 0, true), note(31, 0, false)), 0, 1, 0);
         held("the second of three", 32, voice(0, note(31, 0, true), note(31, 0, true), note(31, 0, false)), 0, 1, 1);
         Music full = Made.full();

@@ -13,7 +13,8 @@ final class UndoEdgeTest {
         EDGES.add(new Edge(30, "when it ends normally, also if it changes nothing.", UndoEdgeTest::changesOfNothing));
         EDGES.add(new Edge(30, "The saved state is the one from before the call.", UndoEdgeTest::statesFromBefore));
         EDGES.add(new Edge(30, "The stack keeps the latest 4 saved states and drops older ones.", UndoEdgeTest::latestFour));
-        EDGES.add(new Edge(30, "Restores the latest saved state and removes it from the undo stack.", UndoEdgeTest::latestFirst));
+        EDGES.add(new Edge(30, "Restores the latest saved state and removes it from the undo stack.",
+                UndoEdgeTest::latestFirst));
         EDGES.add(new Edge(30, "Returns the number of states that are left on the stack.", UndoEdgeTest::undoReturns));
         EDGES.add(new Edge(30, "Throws IllegalStateException if the stack is empty", UndoEdgeTest::emptyStack));
         EDGES.add(new Edge(30, Edge.CHANGES_NOTHING, UndoEdgeTest::refusedCallsInARow));
@@ -29,11 +30,12 @@ final class UndoEdgeTest {
             music -> music.set(0, 0, 7), music -> music.addNote(0, 0, 30, 1, 4, true), music -> music.addRest(0, 1, 3),
             music -> music.removeEvent(0, 0, 0), music -> music.readInto(0));
 
-    private static final List<Consumer<Music>> OTHERS = List.of(music -> music.measure(0, 7), music -> music.event(0, 0, 0, 8),
-            music -> music.eventAt(0, 0, 5), music -> music.crossings(0), music -> music.whole(7), music -> music.order(1),
-            music -> music.timesPlayed(0), music -> music.seconds(2), music -> music.placeAt(1), music -> music.sentenceLength(0),
-            music -> music.sentenceByte(0, 1), music -> music.words(0), music -> music.copySentence(0), music -> music.type(' '),
-            music -> music.cut(1), Music::clearText, Music::fault, music -> music.tells(0), music -> music.changedBy(0, 3),
+    private static final List<Consumer<Music>> OTHERS = List.of(music -> music.measure(0, 7),
+            music -> music.event(0, 0, 0, 8), music -> music.eventAt(0, 0, 5), music -> music.crossings(0),
+            music -> music.whole(7), music -> music.order(1), music -> music.timesPlayed(0), music -> music.seconds(2),
+            music -> music.placeAt(1), music -> music.sentenceLength(0), music -> music.sentenceByte(0, 1),
+            music -> music.words(0), music -> music.copySentence(0), music -> music.type(' '), music -> music.cut(1),
+            Music::clearText, Music::fault, music -> music.tells(0), music -> music.changedBy(0, 3),
             music -> music.nearestKey(0), music -> music.needlessSigns(0), Music::digest);
 
     /** One measure with a rest, three saved states, a text. */
@@ -232,17 +234,18 @@ final class UndoEdgeTest {
     }
 
     private static void refusedCallsInARow() {
-        List<Consumer<Music>> wrong = List.of(music -> music.removeMeasure(3), music -> music.set(3, 0, 0), music -> music.set(0, 7, 0),
-                music -> music.set(0, 0, 8), music -> music.addNote(3, 0, 0, 0, 0, false), music -> music.addNote(0, 2, 0, 0, 0, false),
-                music -> music.addNote(0, 0, 63, 0, 0, false), music -> music.addRest(0, 2, 0), music -> music.addRest(0, 0, 10),
-                music -> music.removeEvent(0, 0, 3), music -> music.measure(3, 0), music -> music.measure(0, 12),
-                music -> music.event(0, 0, 3, 0), music -> music.event(0, 0, 0, 10), music -> music.eventAt(3, 0, 0),
-                music -> music.eventAt(0, 0, -1), music -> music.crossings(3), music -> music.whole(9), music -> music.order(-1),
-                music -> music.timesPlayed(3), music -> music.seconds(-1), music -> music.placeAt(-1), music -> music.sentenceLength(3),
-                music -> music.sentenceByte(3, 0), music -> music.sentenceByte(0, -1), music -> music.words(3),
-                music -> music.copySentence(3), music -> music.type(128), music -> music.cut(0), music -> music.cut(600),
-                music -> music.readInto(3), music -> music.tells(3), music -> music.changedBy(3, 0), music -> music.changedBy(0, 8),
-                music -> music.nearestKey(3), music -> music.needlessSigns(3));
+        List<Consumer<Music>> wrong = List.of(music -> music.removeMeasure(3), music -> music.set(3, 0, 0),
+                music -> music.set(0, 7, 0), music -> music.set(0, 0, 8), music -> music.addNote(3, 0, 0, 0, 0, false),
+                music -> music.addNote(0, 2, 0, 0, 0, false), music -> music.addNote(0, 0, 63, 0, 0, false),
+                music -> music.addRest(0, 2, 0), music -> music.addRest(0, 0, 10), music -> music.removeEvent(0, 0, 3),
+                music -> music.measure(3, 0), music -> music.measure(0, 12), music -> music.event(0, 0, 3, 0),
+                music -> music.event(0, 0, 0, 10), music -> music.eventAt(3, 0, 0), music -> music.eventAt(0, 0, -1),
+                music -> music.crossings(3), music -> music.whole(9), music -> music.order(-1),
+                music -> music.timesPlayed(3), music -> music.seconds(-1), music -> music.placeAt(-1),
+                music -> music.sentenceLength(3), music -> music.sentenceByte(3, 0), music -> music.sentenceByte(0, -1),
+                music -> music.words(3), music -> music.copySentence(3), music -> music.type(128), music -> music.cut(0),
+                music -> music.cut(600), music -> music.readInto(3), music -> music.tells(3), music -> music.changedBy(3, 0),
+                music -> music.changedBy(0, 8), music -> music.nearestKey(3), music -> music.needlessSigns(3));
         Music states = Made.rich();
         Music text = Made.rich();
         for (Consumer<Music> call : wrong) {

@@ -2,7 +2,7 @@ import java.util.ArrayList;
 import java.util.List;
 import java.util.function.Supplier;
 
-/** Promises 8 to 12 without what notes sound, sentence by sentence: what stands just inside and just outside of boundaries. */
+/** Promises 8 to 12 but for what notes sound, sentence by sentence: what stands just inside and outside of boundaries. */
 final class ValuesEdgeTest {
     static final List<Edge> EDGES = new ArrayList<>();
     private static final int NONE = Music.NONE;
@@ -29,8 +29,8 @@ final class ValuesEdgeTest {
     }
 
     private static void ofEvent() {
-        EDGES.add(new Edge(9, "Its duration is a number from 0 to 9: its half, rounded down, is 0 for a whole, 1 for a half, "
-                + "2 for a quarter, 3 for an eighth, 4 for a sixteenth; it is dotted if the number is odd.",
+        EDGES.add(new Edge(9, "Its duration is a number from 0 to 9: its half, rounded down, is 0 for a whole, 1 for a "
+                + "half, 2 for a quarter, 3 for an eighth, 4 for a sixteenth; it is dotted if the number is odd.",
                 ValuesEdgeTest::durationsInWords));
         EDGES.add(new Edge(9, "A whole lasts 64 ticks, each next one half as long; a dot makes it half as long again.",
                 ValuesEdgeTest::ticksOfDurations));
@@ -40,10 +40,11 @@ final class ValuesEdgeTest {
         EDGES.add(new Edge(9, "Returns a value of an event.", ValuesEdgeTest::valuesOfFullVoices));
         EDGES.add(new Edge(9, Edge.VOICE, ValuesEdgeTest::voicesOfEvents));
         EDGES.add(new Edge(9, "event: number of an event of the voice", ValuesEdgeTest::firstAndLastEvent));
-        EDGES.add(new Edge(9, "what: 0 pitch, 1 sign, 2 duration, 3 1 if it is tied or 0 if not, 4 ticks, 5 tick at which it "
-                + "begins, 6 shift, 7 what it sounds, 8 held length, 9 1 if it is tied and the tie is broken or 0 if not",
+        EDGES.add(new Edge(9, "what: 0 pitch, 1 sign, 2 duration, 3 1 if it is tied or 0 if not, 4 ticks, 5 tick at which "
+                + "it begins, 6 shift, 7 what it sounds, 8 held length, 9 1 if it is tied and the tie is broken or 0 if not",
                 ValuesEdgeTest::valuesOfEvents));
-        EDGES.add(new Edge(9, "Returns that value; NONE for a rest, if what is not 2, 4 or 5.", ValuesEdgeTest::valuesOfRests));
+        EDGES.add(new Edge(9, "Returns that value; NONE for a rest, if what is not 2, 4 or 5.",
+                ValuesEdgeTest::valuesOfRests));
         EDGES.add(new Edge(9, Edge.NO_EVENT, ValuesEdgeTest::noEvent));
         EDGES.add(new Edge(9, "Throws IllegalArgumentException if what is out of range", ValuesEdgeTest::noValueOfEvents));
         EDGES.add(new Edge(9, Edge.FIRST_LISTED, ValuesEdgeTest::eventFirstListed));
@@ -74,13 +75,15 @@ final class ValuesEdgeTest {
         EDGES.add(new Edge(12, "Returns a value of the whole.", ValuesEdgeTest::emptyAndFull));
         EDGES.add(new Edge(12, "what: 0 measures, 1 events, 2 notes, 3 tied notes", ValuesEdgeTest::kindsOfEvents));
         EDGES.add(new Edge(12, "4 broken ties", ValuesEdgeTest::brokenTies));
-        EDGES.add(new Edge(12, "5 voices with events that last shorter or longer than their measure", ValuesEdgeTest::unevenVoices));
+        EDGES.add(new Edge(12, "5 voices with events that last shorter or longer than their measure",
+                ValuesEdgeTest::unevenVoices));
         EDGES.add(new Edge(12, "6 places of the order", ValuesEdgeTest::placesOfTheOrder));
         EDGES.add(new Edge(12, "7 ticks of all measures of the order (a measure that is played twice counts twice)",
                 ValuesEdgeTest::ticksOfTheOrder));
         EDGES.add(new Edge(12, "8 length of the text", ValuesEdgeTest::lengthOfTheText));
         EDGES.add(new Edge(12, Edge.RETURNS_VALUE, ValuesEdgeTest::wholeAnswersAgain));
-        EDGES.add(new Edge(12, "Throws IllegalArgumentException if what is out of range", ValuesEdgeTest::noValueOfTheWhole));
+        EDGES.add(new Edge(12, "Throws IllegalArgumentException if what is out of range",
+                ValuesEdgeTest::noValueOfTheWhole));
     }
 
     public static void main(String[] args) {
@@ -280,10 +283,12 @@ final class ValuesEdgeTest {
     private static void valuesOfEvents() {
         Music music = Made.bars(2);
         Made.add(music, 0, 0, new int[] {8}, new int[] {59, 1, 9, 1}, new int[] {59, 0, 3, 1}, new int[] {58, 0, 0, 0});
-        int[][] due = {{59, 1, 9, 1, 6, 4, 1, 102, 54, 0}, {59, 0, 3, 1, 48, 10, 1, 102, 48, 1}, {58, 0, 0, 0, 64, 58, 0, 100, 64, 0}};
+        int[][] due = {{59, 1, 9, 1, 6, 4, 1, 102, 54, 0}, {59, 0, 3, 1, 48, 10, 1, 102, 48, 1},
+            {58, 0, 0, 0, 64, 58, 0, 100, 64, 0}};
         for (int event = 1; event <= 3; event++) {
             for (int what = 0; what <= 9; what++) {
-                Check.equal("event(0, 0, " + event + ", " + what + ")", music.event(0, 0, event, what), due[event - 1][what]);
+                Check.equal("event(0, 0, " + event + ", " + what + ")", music.event(0, 0, event, what),
+                        due[event - 1][what]);
             }
         }
     }
@@ -469,13 +474,14 @@ final class ValuesEdgeTest {
 
     private static void crossingsHigher() {
         int[][] signsAndCrossings = {{28, 0, 28, 0, 0}, {28, 0, 28, 1, 64}, {28, 2, 28, 0, 64}, {28, 1, 28, 0, 0},
-            {28, 1, 29, 0, 64}, {28, 1, 29, 2, 0}, {30, 0, 31, 0, 64}, {30, 0, 31, 2, 0}, {30, 1, 31, 0, 0}, {30, 1, 31, 2, 0},
-            {34, 0, 35, 0, 64}, {34, 1, 35, 0, 0}, {62, 1, 0, 2, 0}, {0, 2, 62, 1, 64}};
+            {28, 1, 29, 0, 64}, {28, 1, 29, 2, 0}, {30, 0, 31, 0, 64}, {30, 0, 31, 2, 0}, {30, 1, 31, 0, 0},
+            {30, 1, 31, 2, 0}, {34, 0, 35, 0, 64}, {34, 1, 35, 0, 0}, {62, 1, 0, 2, 0}, {0, 2, 62, 1, 64}};
         for (int[] row : signsAndCrossings) {
             Music music = Made.bars(1);
             Made.add(music, 0, 0, new int[] {row[0], row[1], 0, 0});
             Made.add(music, 0, 1, new int[] {row[2], row[3], 0, 0});
-            Check.equal("pitch " + row[2] + " sign " + row[3] + " over " + row[0] + " sign " + row[1], music.crossings(0), row[4]);
+            Check.equal("pitch " + row[2] + " sign " + row[3] + " over " + row[0] + " sign " + row[1], music.crossings(0),
+                    row[4]);
         }
         Music keyed = Made.bars(2);
         Made.add(keyed, 1, 0, new int[] {30, 0, 2, 0}, new int[] {30, 3, 2, 0});

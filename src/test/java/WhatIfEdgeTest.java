@@ -21,14 +21,16 @@ final class WhatIfEdgeTest {
         EDGES.add(new Edge(27, Edge.RETURNS_NUMBER, WhatIfEdgeTest::changedByChangesNothing));
         EDGES.add(new Edge(27, Edge.NO_MEASURE,
                 () -> Check.refusesMeasures("changedBy()", (music, measure) -> music.changedBy(measure, 1))));
-        EDGES.add(new Edge(27, "Throws IllegalArgumentException if key is out of range", WhatIfEdgeTest::changedByOutOfRange));
+        EDGES.add(new Edge(27, "Throws IllegalArgumentException if key is out of range",
+                WhatIfEdgeTest::changedByOutOfRange));
         EDGES.add(new Edge(27, Edge.FIRST_LISTED, WhatIfEdgeTest::changedByFirstListed));
     }
 
     private static void ofNearestKey() {
-        EDGES.add(new Edge(28, "Returns the key, other than that of a measure, with which the fewest of its notes would sound "
-                + "something else (see changedBy()).", WhatIfEdgeTest::nearestKeys));
-        EDGES.add(new Edge(28, "Returns the key, of several the one with the lowest number.", WhatIfEdgeTest::lowestOfSeveral));
+        EDGES.add(new Edge(28, "Returns the key, other than that of a measure, with which the fewest of its notes would "
+                + "sound something else (see changedBy()).", WhatIfEdgeTest::nearestKeys));
+        EDGES.add(new Edge(28, "Returns the key, of several the one with the lowest number.",
+                WhatIfEdgeTest::lowestOfSeveral));
         EDGES.add(new Edge(28, Edge.NO_MEASURE, () -> Check.refusesMeasures("nearestKey()", Music::nearestKey)));
     }
 
@@ -42,12 +44,12 @@ final class WhatIfEdgeTest {
 
     private static void ofDigest() {
         EDGES.add(new Edge(31, "Returns a hash of the state. It starts with h = 43179.", WhatIfEdgeTest::digestOfNothing));
-        EDGES.add(new Edge(31, "For each of the following values v, in this order, h becomes 31 * h + v (long arithmetic, overflow "
-                + "wraps).", WhatIfEdgeTest::digestsThatWrap));
+        EDGES.add(new Edge(31, "For each of the following values v, in this order, h becomes 31 * h + v (long arithmetic, "
+                + "overflow wraps).", WhatIfEdgeTest::digestsThatWrap));
         EDGES.add(new Edge(31, "the number of states on the undo stack;", WhatIfEdgeTest::digestsOfStates));
-        EDGES.add(new Edge(31, "whole() of 0 to 8; for each measure measure() of 0 to 11, for each of its events, those of voice 0 "
-                + "first, event() of 0 to 9, then crossings(), timesPlayed(), and the bytes of its sentence; for each place of the "
-                + "order its measure;", WhatIfEdgeTest::digestsOfMusic));
+        EDGES.add(new Edge(31, "whole() of 0 to 8; for each measure measure() of 0 to 11, for each of its events, those of "
+                + "voice 0 first, event() of 0 to 9, then crossings(), timesPlayed(), and the bytes of its sentence; for "
+                + "each place of the order its measure;", WhatIfEdgeTest::digestsOfMusic));
         EDGES.add(new Edge(31, "fault().", WhatIfEdgeTest::digestsOfFaults));
         EDGES.add(new Edge(31, "Returns the hash.", WhatIfEdgeTest::digestChangesNothing));
     }
@@ -122,11 +124,13 @@ final class WhatIfEdgeTest {
         Check.equal("another step", measure(0, note(30, 0, false)).changedBy(0, 1), 0);
         for (int sign = 1; sign <= 3; sign++) {
             Check.equal("sign " + sign, measure(0, note(31, sign, false)).changedBy(0, 1), 0);
-            Check.equal("behind sign " + sign, measure(0, note(31, sign, false), REST, note(31, 0, false)).changedBy(0, 1), 0);
+            Check.equal("behind sign " + sign, measure(0, note(31, sign, false), REST, note(31, 0, false)).changedBy(0, 1),
+                    0);
             Check.equal("tied to sign " + sign, measure(0, note(31, sign, true), note(31, 0, false)).changedBy(0, -7), 0);
             Check.equal("ahead of sign " + sign, measure(0, note(31, 0, false), note(31, sign, false)).changedBy(0, 1), 1);
         }
-        Check.equal("tied to one that changes", measure(0, note(31, 0, true), note(31, 0, true), note(31, 0, false)).changedBy(0, 1), 3);
+        Check.equal("tied to one that changes", measure(0, note(31, 0, true), note(31, 0, true),
+                note(31, 0, false)).changedBy(0, 1), 3);
         Check.equal("another octave behind a sign", measure(0, note(31, 1, false), note(38, 0, false)).changedBy(0, 1), 1);
         Check.equal("from sharp to flat", measure(7, note(31, 0, false)).changedBy(0, -7), 1);
         Check.equal("from sharp to sharp", measure(7, note(31, 0, false)).changedBy(0, 1), 0);
@@ -141,7 +145,8 @@ final class WhatIfEdgeTest {
     private static void keysOfChangedBy() {
         for (int own = -7; own <= 7; own++) {
             for (int key = -7; key <= 7; key++) {
-                Check.equal("changedBy(0, " + key + ") of all steps in " + own, allSteps(own).changedBy(0, key), due(own, key));
+                Check.equal("changedBy(0, " + key + ") of all steps in " + own, allSteps(own).changedBy(0, key),
+                        due(own, key));
             }
         }
         Check.refusedValue("changedBy(0, 8)", Made::rich, music -> music.changedBy(0, 8));
@@ -240,9 +245,12 @@ final class WhatIfEdgeTest {
         }
         for (int sign = 1; sign <= 3; sign++) {
             int natural = sign == 3 ? 1 : 0;
-            needless("sign " + sign + " behind the same", 1 + natural, measure(0, note(30, sign, false), note(30, sign, false)), 0);
-            needless("sign " + sign + " tied to the same", 1 + natural, measure(0, note(30, sign, true), note(30, sign, false)), 0);
-            needless("sign " + sign + " behind a natural", 1 + natural, measure(0, note(30, 3, false), note(30, sign, false)), 0);
+            needless("sign " + sign + " behind the same", 1 + natural, measure(0, note(30, sign, false),
+                    note(30, sign, false)), 0);
+            needless("sign " + sign + " tied to the same", 1 + natural, measure(0, note(30, sign, true),
+                    note(30, sign, false)), 0);
+            needless("sign " + sign + " behind a natural", 1 + natural, measure(0, note(30, 3, false),
+                    note(30, sign, false)), 0);
             Music overBar = Made.bars(2);
             Made.add(overBar, 0, 0, note(30, sign, true));
             Made.add(overBar, 1, 0, note(30, sign, false));
@@ -258,7 +266,8 @@ final class WhatIfEdgeTest {
     private static void signsAlone() {
         needless("two sharps of the key", 2, measure(1, note(31, 1, false), note(31, 1, false)), 0);
         needless("two sharps against the key", 1, measure(0, note(31, 1, false), note(31, 1, false)), 0);
-        needless("three sharps against the key", 2, measure(0, note(31, 1, false), note(31, 1, false), note(31, 1, false)), 0);
+        needless("three sharps against the key", 2, measure(0, note(31, 1, false), note(31, 1, false), note(31, 1, false)),
+                0);
         Music later = Made.bars(2);
         Made.add(later, 0, 0, note(31, 1, true));
         Made.add(later, 1, 0, note(31, 1, false), note(31, 0, false));
@@ -298,7 +307,8 @@ final class WhatIfEdgeTest {
         for (int states = 0; states <= 5; states++) {
             int calls = states;
             Supplier<Music> maker = () -> Made.bars(calls);
-            Check.equal("digest() of " + states + " saved states", maker.get().digest(), Check.digestOf(maker, Math.min(states, 4)));
+            Check.equal("digest() of " + states + " saved states", maker.get().digest(),
+                    Check.digestOf(maker, Math.min(states, 4)));
         }
         Supplier<Music> undone = () -> {
             Music music = Made.wide();

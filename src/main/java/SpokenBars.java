@@ -278,6 +278,7 @@ public final class SpokenBars {
     public int nearestKey(int measure) throws IndexOutOfBoundsException {
         requireMeasure(measure);
         int nearest = NONE;
+        // One more than there can be notes, as all of them may change in every other key.
         int fewest = Score.VOICES * Score.MOST_EVENTS + 1;
         for (int key = -Score.MOST_SIGNS; key <= Score.MOST_SIGNS; key++) {
             if (key != score.value(measure, Score.KEY)) {

@@ -80,6 +80,15 @@ final class WhatIfEdgeTest {
         return music;
     }
 
+    /** One measure with as many notes as there can be, all of one pitch. */
+    private static Music alike(int key, int pitch) {
+        Music music = measure(key);
+        for (int count = 0; count < 48; count++) {
+            music.addNote(0, count % 2, pitch, 0, 4, false);
+        }
+        return music;
+    }
+
     // ---- promise 27: changedBy
 
     private static void fewestAndMostChanged() {
@@ -205,6 +214,8 @@ final class WhatIfEdgeTest {
         Check.equal("f sharp by the key, and c", measure(1, note(31, 0, false), note(28, 0, false)).nearestKey(0), -5);
         Check.equal("f sharp by the key, twice, and c",
                 measure(1, note(31, 0, false), note(31, 0, false), note(28, 0, false)).nearestKey(0), 2);
+        Check.equal("48 notes b, all of which change in any other key", alike(7, 34).nearestKey(0), -7);
+        Check.equal("48 notes f, all of which change in any other key", alike(-7, 31).nearestKey(0), -6);
         Music otherMeasure = Made.bars(2);
         Made.add(otherMeasure, 0, 0, note(34, 0, false));
         Check.equal("the notes of another measure", otherMeasure.nearestKey(1), -7);
